@@ -1,0 +1,4 @@
+final class ReferenceTest {
+    static void run(Check check) {
+    }
+}
