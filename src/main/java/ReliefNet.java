@@ -540,58 +540,61 @@ public final class ReliefNet {
 
     /** Which stations hear one another in which hour of the day, and the best ways over them. */
     private static final class Ways {
-        /** More links than any way has. */
-        private static final int FAR = 1000;
         private static final int MOST_WAY_HOURS = 24;
+        /** A set of stations takes so many bits, and the best ways have fewer links than that. */
+        private static final int SET_BITS = 8;
+        private static final int SET_MASK = 255;
+        /** In each of the eight sets of a long the lowest station. */
+        private static final long LOWEST_IN_ALL = 0x0101010101010101L;
 
-        /** The fewest links of a way that is at the station by now. */
-        private static final int LINKS = 0;
-        /** Of the ways with the fewest links: the set of stations to which they go in the very first hour. */
-        private static final int FIRSTS = 1;
-        private static final int LINKS_BEFORE = 2;
-        private static final int FIRSTS_BEFORE = 3;
-
-        /** A row for each hour of the day: for each station the set of those that it has an open link to. */
-        private final Table heard = new Table(DAY, MOST_STATIONS);
-        private final Table places = new Table(MOST_STATIONS, 4);
+        /** For each hour of the day eight sets: for each station those that it has an open link to. */
+        private final long[] heard = new long[DAY];
         private int arrival = NONE;
         private int fewest = NONE;
         private int next = NONE;
 
         void clear() {
-            heard.clear();
+            for (int hour = 0; hour < heard.length; hour++) {
+                heard[hour] = 0;
+            }
         }
 
         void takeFrom(Ways other) {
-            heard.takeFrom(other.heard);
+            System.arraycopy(other.heard, 0, heard, 0, Math.min(other.heard.length, heard.length));
         }
 
         void connect(int hour, int one, int other) {
-            heard.set(hour, one, heard.get(hour, one) | 1 << other);
-            heard.set(hour, other, heard.get(hour, other) | 1 << one);
+            if (hour >= 0 && hour < heard.length) {
+                heard[hour] |= 1L << one * SET_BITS + other | 1L << other * SET_BITS + one;
+            }
         }
 
         boolean goesFrom(int station, int time, int barred) {
-            return (heard.get(Math.floorMod(time, DAY), station) & ~barred) != 0;
+            return (setOf(heardAt(time), station) & ~barred) != 0;
         }
 
         /** Finds the best ways that do not come to barred stations; false if there is no way. */
         boolean find(int from, int to, int time, int barred) {
-            for (int station = 0; station < MOST_STATIONS; station++) {
-                places.set(station, LINKS, station == from ? 0 : FAR);
-                places.set(station, FIRSTS, 0);
+            int hours = hoursOfEarliest(from, to, time, barred);
+            if (hours == NONE) {
+                return false;
             }
-            for (int passed = 0; passed < MOST_WAY_HOURS; passed++) {
-                spread(Math.floorMod(time + passed, DAY), passed == 0, barred | 1 << from);
-                if (places.get(to, LINKS) < FAR) {
-                    arrival = time + passed + 1;
-                    fewest = places.get(to, LINKS);
-                    int firsts = places.get(to, FIRSTS);
-                    next = firsts == 0 ? NONE : Integer.numberOfTrailingZeros(firsts);
-                    return true;
+            arrival = time + hours;
+            int firsts = setOf(heardAt(time), from) & ~barred;
+            // The first station is barred for a copy, but its copy may wait there.
+            long rests = restsAfterFirstHour(to, time, hours, barred & ~(1 << from));
+            fewest = NONE;
+            next = NONE;
+            for (int links = 0; links < SET_BITS && fewest == NONE; links++) {
+                int near = links == 0 ? 0 : setOf(rests, links - 1) & firsts;
+                if (near != 0) {
+                    next = Integer.numberOfTrailingZeros(near);
+                    fewest = links;
+                } else if ((setOf(rests, links) >> from & 1) == 1) {
+                    fewest = links;
                 }
             }
-            return false;
+            return true;
         }
 
         int arrival() {
@@ -609,40 +612,62 @@ public final class ReliefNet {
 
         /** Counts the stations other than the first one to which there is a way. */
         int reached(int from, int time, int barred) {
-            int reached = 1 << from;
+            int there = 1 << from;
             for (int passed = 0; passed < MOST_WAY_HOURS; passed++) {
-                int hour = Math.floorMod(time + passed, DAY);
-                int before = reached;
-                for (int station = 0; station < MOST_STATIONS; station++) {
-                    if ((before >> station & 1) == 1) {
-                        reached |= heard.get(hour, station) & ~barred;
-                    }
+                there |= heardBy(there, heardAt(time + passed)) & ~barred;
+            }
+            return Integer.bitCount(there) - 1;
+        }
+
+        /** The hours that the ways take that arrive earliest; NONE if there is no way. */
+        private int hoursOfEarliest(int from, int to, int time, int barred) {
+            int there = 1 << from;
+            for (int passed = 0; passed < MOST_WAY_HOURS; passed++) {
+                there |= heardBy(there, heardAt(time + passed)) & ~barred;
+                if ((there >> to & 1) == 1) {
+                    return passed + 1;
                 }
             }
-            return Integer.bitCount(reached) - 1;
+            return NONE;
         }
 
         /**
-         * Goes on by one hour to all stations at once. Of the ways that are at a station by the same time
-         * only those with the fewest links can be parts of best ways, so the others are forgotten.
+         * Eight sets, by numbers of links: the stations from which so many links, or fewer, lead on in time if
+         * the first hour has passed. They are found backwards, from the hour of the arrival on. Nobody has to
+         * be kept from coming to the first station again, since waiting there takes fewer links.
          */
-        private void spread(int hour, boolean atFirst, int barred) {
-            for (int station = 0; station < MOST_STATIONS; station++) {
-                places.set(station, LINKS_BEFORE, places.get(station, LINKS));
-                places.set(station, FIRSTS_BEFORE, places.get(station, FIRSTS));
+        private long restsAfterFirstHour(int to, int time, int hours, int barred) {
+            long rests = LOWEST_IN_ALL << to;
+            long allowed = LOWEST_IN_ALL * (SET_MASK & ~barred);
+            for (int passed = hours - 1; passed > 0; passed--) {
+                long hearing = heardAt(time + passed);
+                long oneLinkFurther = 0;
+                for (int station = 0; station < MOST_STATIONS; station++) {
+                    // A product puts the set that the station hears where the station itself stood.
+                    oneLinkFurther |= (rests >>> station & LOWEST_IN_ALL) * setOf(hearing, station);
+                }
+                rests |= oneLinkFurther << SET_BITS & allowed;
             }
+            return rests;
+        }
+
+        private static int heardBy(int stations, long hearing) {
+            int set = 0;
             for (int station = 0; station < MOST_STATIONS; station++) {
-                int hears = (barred >> station & 1) == 1 ? 0 : heard.get(hour, station);
-                for (int other = 0; other < MOST_STATIONS && hears >> other != 0; other++) {
-                    int links = places.get(other, LINKS_BEFORE) + 1;
-                    if ((hears >> other & 1) == 1 && links <= places.get(station, LINKS)) {
-                        int firsts = atFirst ? 1 << station : places.get(other, FIRSTS_BEFORE);
-                        boolean fewer = links < places.get(station, LINKS);
-                        places.set(station, LINKS, links);
-                        places.set(station, FIRSTS, fewer ? firsts : firsts | places.get(station, FIRSTS));
-                    }
+                if ((stations >> station & 1) == 1) {
+                    set |= setOf(hearing, station);
                 }
             }
+            return set;
+        }
+
+        private long heardAt(int time) {
+            int hour = Math.floorMod(time, DAY);
+            return hour >= 0 && hour < heard.length ? heard[hour] : 0;
+        }
+
+        private static int setOf(long sets, int index) {
+            return (int) (sets >>> index * SET_BITS) & SET_MASK;
         }
     }
 
