@@ -662,7 +662,7 @@ public final class ReliefNet {
         }
 
         private long heardAt(int time) {
-            int hour = Math.floorMod(time, DAY);
+            int hour = time % DAY;
             return hour >= 0 && hour < heard.length ? heard[hour] : 0;
         }
 
@@ -1185,7 +1185,7 @@ public final class ReliefNet {
         }
 
         private int hourOfDay() {
-            return Math.floorMod(time, DAY);
+            return time % DAY;
         }
 
         private boolean isOnAir(int station, int hour) {

@@ -19,6 +19,7 @@ final class MessageTest {
         check.test("21 refuses a message, then what", MessageTest::messageRefused);
         check.test("22 tells a copy's numbers", MessageTest::copy);
         check.test("22 ways of a copy do not come to its path", MessageTest::nextAvoidsPath);
+        check.test("22 no next station if the best way waits", MessageTest::nextWaits);
         check.test("22 refuses a message or station, then what", MessageTest::copyRefused);
         check.test("23 tells the path", MessageTest::path);
         check.test("23 refuses what is not there", MessageTest::pathRefused);
@@ -140,6 +141,15 @@ final class MessageTest {
         Check.row(Nets.message(net, 0), 0, 3, 1, 2, 1, 5, 3, 3, 0, 0, -1, -1);
         net.run(60);
         Check.row(Nets.message(net, 0), 0, 3, 1, 2, 1, 5, 3, 3, 0, 0, -1, -1);
+        // What has ended stays so, whatever the messages beside it do.
+        net.send(0, 3, 0);
+        net.send(0, 3, 0);
+        net.send(0, 3, 0);
+        net.takeBack(2);
+        Check.equal(0, net.message(1, 4));
+        Check.equal(2, net.message(2, 4));
+        Check.equal(0, net.message(3, 4));
+        Check.row(new int[] {net.count(7), net.count(8), net.count(9)}, 2, 1, 1);
         // 58 draws 19, 50: got, not acknowledged; the copy of 0 is sent again and found double.
         ReliefNet twice = Nets.row(2, 1, 50);
         twice.setRules(48, 9, 58);
@@ -232,6 +242,20 @@ final class MessageTest {
         Check.equal(0, net.sends(1, 0));
         net.run(1);
         Check.equal(2, net.copy(0, 3, 4));
+    }
+
+    private static void nextWaits() {
+        // From 0 to 3 by 1 and 2 at once, or by the link that opens at 2: both arrive at 3.
+        ReliefNet net = Nets.row(4, 1, 100);
+        net.addLink(0, 3, 2, 23, 100);
+        net.send(0, 3, 0);
+        Check.equal(-1, net.copy(0, 0, 4));
+        Check.equal(-1, net.sends(0, 0));
+        net.run(2);
+        Check.equal(0, net.count(11));
+        Check.equal(3, net.copy(0, 0, 4));
+        Check.equal(1, net.run(1));
+        Check.equal(1, net.message(0, 6));
     }
 
     private static void copyRefused() throws Exception {

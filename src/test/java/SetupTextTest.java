@@ -14,6 +14,7 @@ final class SetupTextTest {
         check.test("4 loads every statement", SetupTextTest::loadAll);
         check.test("4 a load replaces everything but the output and saved states", SetupTextTest::loadReplaces);
         check.test("4 a load with an error changes nothing but text and error", SetupTextTest::loadError);
+        check.test("4 a load keeps nothing of predictions and of earlier texts", SetupTextTest::loadForgets);
         check.test("4 empties the text", SetupTextTest::loadEmpties);
         check.test("4 spaces, line feeds and long numbers", SetupTextTest::blanks);
         check.test("4 the last of several rules counts", SetupTextTest::rulesTwice);
@@ -142,6 +143,34 @@ final class SetupTextTest {
         Check.equal(0, net.load());
     }
 
+    private static void loadForgets() {
+        String text = "station 0 23 9;station 0 23 9;station 0 23 9;station 0 23 9;station 0 23 9;"
+                + "link 0 1 0 23 60;link 1 2 0 23 60;link 2 3 0 23 60;link 3 4 0 23 60;"
+                + "message 0 4 1;message 1 2 1;message 2 3 0;message 3 4 2;message 4 0 3;";
+        ReliefNet due = Nets.loaded(text);
+        ReliefNet net = HourTest.busy();
+        net.run(20);
+        net.stateAfter(0, 30);
+        Nets.load(net, text);
+        Check.equal(Picture.ofSaved(due), Picture.ofSaved(net));
+        due.run(30);
+        net.run(30);
+        Check.equal(Picture.ofSaved(due), Picture.ofSaved(net));
+        net.hoursTo(24);
+        error(net, text + "life 7;tries 7;seed 7;x", 1, text.length() + 22);
+        Check.equal(0, Nets.load(net, ""));
+        Check.equal(Picture.ofSaved(new ReliefNet()), Picture.ofSaved(net));
+        // Bytes of a longer text do not belong to a shorter one.
+        Nets.load(net, "seed    123; ");
+        error(net, "seed", 1, 4);
+        Nets.load(net, "seed 123456;");
+        Check.equal(-1, Nets.load(net, "seed 12"));
+        Check.equal(7, net.errorPosition());
+        Nets.load(net, "stations; ");
+        Check.equal(-1, Nets.load(net, "station"));
+        Check.equal(7, net.errorPosition());
+    }
+
     private static void loadEmpties() throws Exception {
         ReliefNet net = new ReliefNet();
         Nets.load(net, STATION);
@@ -221,6 +250,9 @@ final class SetupTextTest {
         error(net, STATION + (char) 225, 1, 15);
         error(net, STATION + (char) 0, 1, 15);
         error(net, "life 3;;", 1, 7);
+        error(net, "life 3#", 1, 6);
+        error(net, "life 3,life 4;", 1, 6);
+        error(net, "life #", 1, 5);
         error(net, "life;", 1, 4);
         error(net, "tries x;", 1, 6);
         error(net, "seed 5 seed 6;", 1, 7);

@@ -10,6 +10,7 @@ final class WayTest {
         check.test("15 an earlier way with more links is better", WayTest::earliest);
         check.test("15 the next station is the lowest one of the best ways alone", WayTest::lowest);
         check.test("15 no next station if all best ways wait", WayTest::waitsFirst);
+        check.test("15 a station can't be left in the hour in which one comes to it", WayTest::goesOnLater);
         check.test("15 ways of more than 24 hours do not count", WayTest::dayLong);
         check.test("15 refuses a station, then the other arguments", WayTest::refused);
         check.test("16 counts pairs", WayTest::reachable);
@@ -96,6 +97,18 @@ final class WayTest {
         Check.row(Nets.way(net, 0, 2, 0), 1, 1, 2);
     }
 
+    private static void goesOnLater() {
+        // By 1 and 2 it would be as short as by 4 and 5, but the link from 1 to 2 is gone when one comes to 1.
+        ReliefNet net = Nets.loaded("station 0 23 1;station 0 23 1;station 0 23 1;station 0 23 1;station 0 23 1;"
+                + "station 0 23 1;link 0 1 0 0 0;link 1 2 0 0 0;link 2 3 5 5 0;link 0 4 2 2 0;link 4 5 3 3 0;"
+                + "link 5 3 5 5 0;message 0 3 0;");
+        Check.row(Nets.way(net, 0, 3, 0), 6, 3, -1);
+        Check.equal(-1, net.copy(0, 0, 4));
+        net.setLink(1, 1, 1);
+        Check.row(Nets.way(net, 0, 3, 0), 6, 3, 1);
+        Check.equal(1, net.copy(0, 0, 4));
+    }
+
     private static void dayLong() {
         ReliefNet net = Nets.loaded("station 0 23 1;station 0 23 1;station 0 23 1;link 0 1 7 7 0;link 1 2 7 7 0;");
         Check.row(Nets.way(net, 0, 1, 7), 8, 1, 1);
@@ -176,5 +189,20 @@ final class WayTest {
         Check.equal(0, net.keyStation());
         net.addLink(2, 3, 0, 23, 0);
         Check.equal(2, net.keyStation());
+        // Four stations that all hear one another, and a row of three: without 0 as many pairs are left, 12, as
+        // without the middle one of the row; the three pairs from 0 on do not count.
+        ReliefNet parts = new ReliefNet();
+        for (int station = 0; station < 7; station++) {
+            parts.addStation(0, 23, 1);
+        }
+        for (int one = 0; one < 4; one++) {
+            for (int other = one + 1; other < 4; other++) {
+                parts.addLink(one, other, 0, 23, 0);
+            }
+        }
+        parts.addLink(4, 5, 0, 23, 0);
+        parts.addLink(5, 6, 0, 23, 0);
+        Check.equal(18, parts.reachable());
+        Check.equal(0, parts.keyStation());
     }
 }
