@@ -164,11 +164,9 @@ final class SetupTextTest {
         Nets.load(net, "seed    123; ");
         error(net, "seed", 1, 4);
         Nets.load(net, "seed 123456;");
-        Check.equal(-1, Nets.load(net, "seed 12"));
-        Check.equal(7, net.errorPosition());
-        Nets.load(net, "stations; ");
-        Check.equal(-1, Nets.load(net, "station"));
-        Check.equal(7, net.errorPosition());
+        error(net, "seed 123", 1, 8);
+        Nets.load(net, "links; ");
+        error(net, "link", 1, 4);
     }
 
     private static void loadEmpties() throws Exception {
@@ -235,6 +233,10 @@ final class SetupTextTest {
         error(net, "stations 0 23 1;", 1, 0);
         error(net, "statio 0 23 1;", 1, 0);
         error(net, "Station 0 23 1;", 1, 0);
+        error(net, "stationz 0 23 1;", 1, 0);
+        error(net, "astation 0 23 1;", 1, 0);
+        error(net, "xtation 0 23 1;", 1, 0);
+        error(net, "zife 1;", 1, 0);
         error(net, "sTation 0 23 1;", 1, 0);
         error(net, "  ;", 1, 2);
         error(net, " 5;", 1, 1);
