@@ -1,10 +1,20 @@
-/** Runs every test of the project; its only argument is the path of the class's source. */
+/** Runs every test of the project; its arguments are the paths of the class's source and of the document. */
 public final class AllTests {
     private AllTests() {
     }
 
     public static void main(String[] arguments) throws Exception {
         Check check = new Check();
+        Document document = new Document(arguments[1]);
+        Sentences doc = new Sentences(check, document);
+        FaceSentences.run(doc, document);
+        TextSentences.run(doc);
+        StationSentences.run(doc);
+        WaySentences.run(doc);
+        MessageSentences.run(doc);
+        HourSentences.run(doc);
+        LogSentences.run(doc);
+        doc.nothingLeft();
         SetupTextTest.run(check);
         StationLinkTest.run(check);
         WayTest.run(check);

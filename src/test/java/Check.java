@@ -48,23 +48,4 @@ final class Check {
         }
         throw new AssertionError("due is " + due.getName() + ", nothing was thrown");
     }
-
-    /** Refused as due, and nothing has changed that the face can tell. */
-    static void refusedUnchanged(Class<? extends RuntimeException> due, ReliefNet net, Body body) throws Exception {
-        String before = Picture.of(net);
-        refused(due, body);
-        equal(before, Picture.of(net));
-    }
-
-    static void noIndex(ReliefNet net, Body body) throws Exception {
-        refusedUnchanged(IndexOutOfBoundsException.class, net, body);
-    }
-
-    static void noArgument(ReliefNet net, Body body) throws Exception {
-        refusedUnchanged(IllegalArgumentException.class, net, body);
-    }
-
-    static void noState(ReliefNet net, Body body) throws Exception {
-        refusedUnchanged(IllegalStateException.class, net, body);
-    }
 }

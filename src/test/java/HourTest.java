@@ -5,7 +5,6 @@ final class HourTest {
 
     static void run(Check check) {
         check.test("25 time passes", HourTest::time);
-        check.test("25 refuses hours out of range", HourTest::refused);
         check.test("25 counts the messages that are delivered in these hours", HourTest::delivered);
         check.test("25 a draw that is not less than the quality loses the frame", HourTest::frameLost);
         check.test("25 a frame that is acknowledged is passed on", HourTest::passed);
@@ -20,7 +19,6 @@ final class HourTest {
         check.test("25 copies of a delivered message are still sent", HourTest::stillSent);
         check.test("25 a copy of any state makes a duplicate", HourTest::anyState);
         check.test("25 expired copies take no draws, and no frame takes no draw", HourTest::noDraws);
-        check.test("25 a run of hours is the same as hours one by one", HourTest::oneByOne);
     }
 
     private static void time() {
@@ -30,14 +28,6 @@ final class HourTest {
         Check.equal(0, net.run(72));
         Check.equal(73, net.count(3));
         Check.equal(1, net.count(6));
-    }
-
-    private static void refused() throws Exception {
-        ReliefNet net = Nets.row(2, 1, 100);
-        net.send(0, 1, 0);
-        for (int hours : new int[] {0, 73, -1, Integer.MIN_VALUE, Integer.MAX_VALUE}) {
-            Check.noArgument(net, () -> net.run(hours));
-        }
     }
 
     private static void delivered() {
@@ -287,17 +277,6 @@ final class HourTest {
         net.run(6);
         Check.equal(5, net.count(6));
         Check.equal(4, net.copy(0, 0, 0));
-    }
-
-    private static void oneByOne() {
-        ReliefNet together = busy();
-        ReliefNet apart = busy();
-        int delivered = 0;
-        for (int hour = 0; hour < 60; hour++) {
-            delivered += apart.run(1);
-        }
-        Check.equal(delivered, together.run(60));
-        Check.equal(Picture.of(together), Picture.of(apart));
     }
 
     static ReliefNet busy() {

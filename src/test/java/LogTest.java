@@ -6,10 +6,8 @@ final class LogTest {
     static void run(Check check) {
         check.test("30 tells an event's numbers", LogTest::event);
         check.test("30 keeps the latest 40 events", LogTest::latest);
-        check.test("30 refuses an event, then what", LogTest::eventRefused);
         check.test("31 writes every kind", LogTest::kinds);
         check.test("31 writes large numbers", LogTest::largeNumbers);
-        check.test("31 refuses an event and keeps the output", LogTest::writeRefused);
         check.test("32 tells the bytes of the output", LogTest::output);
     }
 
@@ -27,7 +25,7 @@ final class LogTest {
         Check.equal(5, net.count(13));
     }
 
-    private static void latest() throws Exception {
+    private static void latest() {
         ReliefNet net = Nets.row(2, 9, 100);
         for (int message = 0; message < 20; message++) {
             net.send(0, 1, 0);
@@ -41,7 +39,6 @@ final class LogTest {
         Check.equal(40, net.count(13));
         Check.equal("0 m0 0 back", Nets.written(net, 0));
         Check.equal("1 m20 1 born", Nets.written(net, 39));
-        Check.noIndex(net, () -> net.event(40, 0));
         net.run(1);
         Check.equal("0 m1 0 back", Nets.written(net, 0));
         Check.equal("1 m20 0>1 delivered", Nets.written(net, 38));
@@ -52,19 +49,6 @@ final class LogTest {
         net.run(1);
         Check.equal("0 m6 0 born", Nets.written(net, 0));
         Check.equal("2 m23 1>0 passed", Nets.written(net, 39));
-    }
-
-    private static void eventRefused() throws Exception {
-        ReliefNet net = Nets.row(2, 1, 100);
-        Check.noIndex(net, () -> net.event(0, 0));
-        net.send(0, 1, 0);
-        for (int event : new int[] {-1, 1, 40, Integer.MIN_VALUE, Integer.MAX_VALUE}) {
-            Check.noIndex(net, () -> net.event(event, 0));
-            Check.noIndex(net, () -> net.event(event, 5));
-        }
-        for (int what : new int[] {-1, 5, Integer.MIN_VALUE, Integer.MAX_VALUE}) {
-            Check.noArgument(net, () -> net.event(0, what));
-        }
     }
 
     private static void kinds() {
@@ -121,17 +105,6 @@ final class LogTest {
         net.run(1);
         Check.equal("29272 m13 1>0 delivered", Nets.written(net, net.count(13) - 2));
         Check.equal(23, net.write(net.count(13) - 2));
-    }
-
-    private static void writeRefused() throws Exception {
-        ReliefNet net = Nets.row(2, 1, 100);
-        Check.noIndex(net, () -> net.write(0));
-        net.send(0, 1, 0);
-        Check.equal(11, net.write(0));
-        for (int event : new int[] {-1, 1, 40, Integer.MIN_VALUE, Integer.MAX_VALUE}) {
-            Check.noIndex(net, () -> net.write(event));
-        }
-        Check.equal("0 m0 0 born", Nets.output(net));
     }
 
     private static void output() {

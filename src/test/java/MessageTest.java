@@ -1,31 +1,21 @@
 /** Promises 18 to 24: messages and copies. */
 final class MessageTest {
-    private static final int LOW = Integer.MIN_VALUE;
-    private static final int HIGH = Integer.MAX_VALUE;
-
     private MessageTest() {
     }
 
     static void run(Check check) {
         check.test("18 sends a message", MessageTest::send);
-        check.test("18 refuses a station, the other arguments, a 25th message, in this order", MessageTest::sendRefused);
         check.test("19 changes a priority", MessageTest::setPriority);
-        check.test("19 refuses a message, then the priority", MessageTest::setPriorityRefused);
         check.test("20 takes copies back", MessageTest::takeBack);
         check.test("20 takes back by ascending stations, also of a delivered message", MessageTest::takeBackMany);
-        check.test("20 refuses a message", MessageTest::takeBackRefused);
         check.test("21 tells a message's numbers", MessageTest::message);
         check.test("21 a later end replaces an earlier one", MessageTest::laterEnd);
-        check.test("21 refuses a message, then what", MessageTest::messageRefused);
         check.test("22 tells a copy's numbers", MessageTest::copy);
         check.test("22 ways of a copy do not come to its path", MessageTest::nextAvoidsPath);
         check.test("22 no next station if the best way waits", MessageTest::nextWaits);
-        check.test("22 refuses a message or station, then what", MessageTest::copyRefused);
         check.test("23 tells the path", MessageTest::path);
-        check.test("23 refuses what is not there", MessageTest::pathRefused);
         check.test("24 tells what would be sent, by priorities", MessageTest::sends);
         check.test("24 tells of copies that would expire, and of stations not on the air", MessageTest::sendsEdges);
-        check.test("24 refuses a station or an index", MessageTest::sendsRefused);
     }
 
     private static void send() {
@@ -38,26 +28,6 @@ final class MessageTest {
         Check.row(Nets.copy(net, 1, 1), 0, -1, -1, -1, -1);
         Check.row(Nets.event(net, net.count(13) - 1), 5, 0, 1, 2, -1);
         Check.row(Nets.message(net, 0), 0, 2, 3, 0, 1, 2, 2, 2, 0, 0, -1, -1);
-    }
-
-    private static void sendRefused() throws Exception {
-        ReliefNet net = Nets.row(2, 1, 100);
-        for (int message = 0; message <= 24; message++) {
-            int[][] noStation = {{-1, 0}, {0, -1}, {2, 0}, {0, 2}, {2, 2}, {LOW, 0}, {0, HIGH}};
-            for (int[] ends : noStation) {
-                Check.noIndex(net, () -> net.send(ends[0], ends[1], 4));
-            }
-            int[][] wrong = {{0, 0, 0}, {1, 1, 0}, {0, 1, -1}, {0, 1, 4}, {0, 1, LOW}, {0, 1, HIGH}};
-            for (int[] numbers : wrong) {
-                Check.noArgument(net, () -> net.send(numbers[0], numbers[1], numbers[2]));
-            }
-            if (message < 24) {
-                Check.equal(message, net.send(message % 2, 1 - message % 2, message % 4));
-            }
-        }
-        Check.noState(net, () -> net.send(0, 1, 0));
-        net.run(24);
-        Check.noState(net, () -> net.send(0, 1, 0));
     }
 
     private static void setPriority() {
@@ -75,18 +45,6 @@ final class MessageTest {
         net.takeBack(0);
         Check.equal(0, net.setPriority(0, 3));
         Check.equal(3, net.message(0, 2));
-    }
-
-    private static void setPriorityRefused() throws Exception {
-        ReliefNet net = Nets.row(2, 1, 100);
-        net.send(0, 1, 2);
-        for (int message : new int[] {-1, 1, LOW, HIGH}) {
-            Check.noIndex(net, () -> net.setPriority(message, 0));
-            Check.noIndex(net, () -> net.setPriority(message, 4));
-        }
-        for (int priority : new int[] {-1, 4, LOW, HIGH}) {
-            Check.noArgument(net, () -> net.setPriority(0, priority));
-        }
     }
 
     private static void takeBack() {
@@ -121,14 +79,6 @@ final class MessageTest {
         Check.row(Nets.message(net, 0), 0, 2, 0, 0, 1, 2, 2, 2, 0, 0, 1, -1);
         Check.equal("2 m0 0 back", Nets.written(net, net.count(13) - 2));
         Check.equal("2 m0 1 back", Nets.written(net, net.count(13) - 1));
-    }
-
-    private static void takeBackRefused() throws Exception {
-        ReliefNet net = Nets.row(2, 1, 100);
-        net.send(0, 1, 2);
-        for (int message : new int[] {-1, 1, LOW, HIGH}) {
-            Check.noIndex(net, () -> net.takeBack(message));
-        }
     }
 
     private static void message() {
@@ -183,18 +133,6 @@ final class MessageTest {
         old.setRules(1, 1, 58);
         old.run(2);
         Check.row(Nets.message(old, 0), 0, 2, 0, 0, 2, -1, -1, 1, 0, 0, 1, -1);
-    }
-
-    private static void messageRefused() throws Exception {
-        ReliefNet net = Nets.row(2, 1, 100);
-        net.send(0, 1, 2);
-        for (int message : new int[] {-1, 1, LOW, HIGH}) {
-            Check.noIndex(net, () -> net.message(message, 0));
-            Check.noIndex(net, () -> net.message(message, 12));
-        }
-        for (int what : new int[] {-1, 12, LOW, HIGH}) {
-            Check.noArgument(net, () -> net.message(0, what));
-        }
     }
 
     private static void copy() {
@@ -258,23 +196,6 @@ final class MessageTest {
         Check.equal(1, net.message(0, 6));
     }
 
-    private static void copyRefused() throws Exception {
-        ReliefNet net = Nets.row(2, 1, 100);
-        net.send(0, 1, 2);
-        for (int number : new int[] {-1, 1, LOW, HIGH}) {
-            Check.noIndex(net, () -> net.copy(number, 0, 0));
-            Check.noIndex(net, () -> net.copy(number, 0, 5));
-        }
-        for (int number : new int[] {-1, 2, LOW, HIGH}) {
-            Check.noIndex(net, () -> net.copy(0, number, 0));
-            Check.noIndex(net, () -> net.copy(0, number, -1));
-        }
-        for (int what : new int[] {-1, 5, LOW, HIGH}) {
-            Check.noArgument(net, () -> net.copy(0, 0, what));
-            Check.noArgument(net, () -> net.copy(0, 1, what));
-        }
-    }
-
     private static void path() {
         ReliefNet net = Nets.row(8, 1, 100);
         net.send(7, 0, 0);
@@ -288,18 +209,6 @@ final class MessageTest {
         Check.equal(7, net.message(0, 6));
     }
 
-    private static void pathRefused() throws Exception {
-        ReliefNet net = Nets.row(3, 1, 100);
-        net.send(0, 2, 0);
-        net.run(1);
-        Check.equal(0, net.path(0, 0, 0));
-        int[][] wrong = {{-1, 0, 0}, {1, 0, 0}, {0, -1, 0}, {0, 3, 0}, {0, 2, 0}, {0, 0, -1}, {0, 0, 1}, {0, 1, 2},
-            {0, 1, LOW}, {0, 1, HIGH}, {LOW, 1, 0}, {HIGH, 1, 0}, {0, LOW, 0}, {0, HIGH, 0}};
-        for (int[] numbers : wrong) {
-            Check.noIndex(net, () -> net.path(numbers[0], numbers[1], numbers[2]));
-        }
-    }
-
     private static void sends() {
         ReliefNet net = Nets.row(3, 4, 100);
         net.addStation(0, 23, 9);
@@ -309,26 +218,18 @@ final class MessageTest {
         }
         net.send(1, 3, 3);
         // The message to 3 has no way.
-        Check.equal("1 3 4 0 ", sent(net, 1));
+        Check.equal("1 3 4 0 ", Nets.sent(net, 1));
         Check.equal(-1, net.sends(1, 4));
-        Check.equal(-1, net.sends(1, HIGH));
+        Check.equal(-1, net.sends(1, Integer.MAX_VALUE));
         net.setStation(1, 2, 9);
-        Check.equal("1 3 4 0 5 2 ", sent(net, 1));
+        Check.equal("1 3 4 0 5 2 ", Nets.sent(net, 1));
         net.setLink(1, 0, 1);
-        Check.equal("4 ", sent(net, 1));
-        Check.equal("", sent(net, 0));
+        Check.equal("4 ", Nets.sent(net, 1));
+        Check.equal("", Nets.sent(net, 0));
         net.setLink(1, 0, 0);
         net.setStation(1, 2, 2);
         net.run(1);
-        Check.equal("4 0 ", sent(net, 1));
-    }
-
-    private static String sent(ReliefNet net, int station) {
-        StringBuilder all = new StringBuilder();
-        for (int index = 0; net.sends(station, index) != ReliefNet.NONE; index++) {
-            all.append(net.sends(station, index)).append(' ');
-        }
-        return all.toString();
+        Check.equal("4 0 ", Nets.sent(net, 1));
     }
 
     private static void sendsEdges() {
@@ -336,26 +237,16 @@ final class MessageTest {
         net.setRules(2, 9, 1);
         net.send(0, 1, 0);
         net.run(2);
-        Check.equal("0 ", sent(net, 0));
+        Check.equal("0 ", Nets.sent(net, 0));
         net.setStation(0, 0, 3);
-        Check.equal("", sent(net, 0));
+        Check.equal("", Nets.sent(net, 0));
         net.setStation(0, 0, 2);
-        Check.equal("0 ", sent(net, 0));
+        Check.equal("0 ", Nets.sent(net, 0));
         net.setStation(1, 0, 3);
-        Check.equal("", sent(net, 0));
+        Check.equal("", Nets.sent(net, 0));
         net.setStation(1, 0, 0);
         net.run(1);
-        Check.equal("", sent(net, 0));
+        Check.equal("", Nets.sent(net, 0));
         Check.equal(4, net.copy(0, 0, 0));
-    }
-
-    private static void sendsRefused() throws Exception {
-        ReliefNet net = Nets.row(2, 1, 100);
-        net.send(0, 1, 2);
-        for (int station : new int[] {-1, 2, LOW, HIGH}) {
-            Check.noIndex(net, () -> net.sends(station, 0));
-        }
-        Check.noIndex(net, () -> net.sends(0, -1));
-        Check.noIndex(net, () -> net.sends(0, LOW));
     }
 }

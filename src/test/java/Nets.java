@@ -44,12 +44,82 @@ final class Nets {
         return net;
     }
 
+    /** Eight stations, sixteen links from the lower four to the upper four, and twenty-four messages. */
+    static ReliefNet full() {
+        ReliefNet net = eightStations();
+        for (int link = 0; link < 16; link++) {
+            net.addLink(link / 4, 4 + link % 4, 0, 23, 100);
+        }
+        for (int message = 0; message < 24; message++) {
+            net.send(message % 8, (message + 1 + message / 8) % 8, message % 4);
+        }
+        return net;
+    }
+
+    static ReliefNet eightStations() {
+        ReliefNet net = new ReliefNet();
+        for (int station = 0; station < 8; station++) {
+            net.addStation(0, 23, 9);
+        }
+        return net;
+    }
+
+    /** A net in which much has happened: there are losses, ends, an error, a text, an output and a saved state. */
+    static ReliefNet history() {
+        ReliefNet net = new ReliefNet();
+        int[][] stations = {{0, 20, 2}, {5, 3, 1}, {0, 23, 3}, {8, 22, 9}, {20, 16, 1}};
+        for (int[] one : stations) {
+            net.addStation(one[0], one[1], one[2]);
+        }
+        int[][] links = {{0, 1, 0, 23, 60}, {1, 2, 0, 23, 80}, {2, 3, 0, 23, 55}, {0, 4, 22, 9, 70}, {4, 3, 1, 13, 40},
+            {0, 2, 12, 18, 90}};
+        for (int[] one : links) {
+            net.addLink(one[0], one[1], one[2], one[3], one[4]);
+        }
+        for (int message = 0; message < 11; message++) {
+            net.send(message % 5, (message + 1 + message / 5) % 5, message * 7 % 4);
+        }
+        net.setRules(20, 2, 4711);
+        net.run(7);
+        net.takeBack(5);
+        net.save(0);
+        net.run(6);
+        net.send(0, 3, 1);
+        net.write(3);
+        load(net, "life 3;x");
+        append(net, "seed 7;");
+        return net;
+    }
+
     static String output(ReliefNet net) {
         StringBuilder all = new StringBuilder();
-        for (int index = 0; net.output(index) != ReliefNet.NONE; index++) {
-            all.append((char) net.output(index));
+        for (int sign = net.output(0); sign != ReliefNet.NONE; sign = net.output(all.length())) {
+            all.append((char) sign);
         }
         return all.toString();
+    }
+
+    /** What a station would send now, each message with a space behind it. */
+    static String sent(ReliefNet net, int station) {
+        StringBuilder all = new StringBuilder();
+        int index = 0;
+        for (int message = net.sends(station, 0); message != ReliefNet.NONE; message = net.sends(station, index)) {
+            all.append(message).append(' ');
+            index++;
+        }
+        return all.toString();
+    }
+
+    /** The face tells the length only when the text changes; the change is taken back. */
+    static int textLength(ReliefNet net) {
+        for (int length = 700; length > 696; length--) {
+            try {
+                return net.truncateText(length);
+            } catch (IllegalArgumentException tooLong) {
+                continue;
+            }
+        }
+        return net.truncateText(net.appendText(0x20202020) - 4);
     }
 
     static String written(ReliefNet net, int event) {

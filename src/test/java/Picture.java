@@ -1,79 +1,132 @@
-/** All that the face tells of a net, as one text; a picture changes nothing. */
+import java.util.ArrayList;
+import java.util.List;
+
+/**
+ * All that the face tells of a net, as one text. The document promises nothing behind the 512th call, so each page
+ * of a picture is made of a net of its own, which a maker builds anew: always by the same calls, some 100 at most.
+ */
 final class Picture {
+    interface Maker {
+        ReliefNet make() throws Exception;
+    }
+
+    private interface Page {
+        void add(ReliefNet net, StringBuilder all) throws Exception;
+    }
+
+    /** So few that a page of copies with the longest paths takes no more than some 330 calls. */
+    private static final int MESSAGES_A_PAGE = 3;
+
     private Picture() {
     }
 
-    static String of(ReliefNet net) {
-        StringBuilder all = new StringBuilder(ofSaved(net));
-        all.append("\nerror ").append(net.errorCode()).append(' ').append(net.errorPosition());
-        all.append("\noutput");
-        for (int index = 0; net.output(index) != ReliefNet.NONE; index++) {
-            all.append(' ').append(net.output(index));
-        }
-        all.append("\ntext ").append(textLength(net));
-        return all.toString();
+    static String of(Maker maker) throws Exception {
+        List<Page> pages = savedPages();
+        pages.add(Picture::addOutput);
+        pages.add(Picture::addText);
+        pages.add((net, all) -> addSlot(net, 0, all));
+        pages.add((net, all) -> addSlot(net, 1, all));
+        return print(maker, pages);
     }
 
     /** Only that part which save keeps. */
-    static String ofSaved(ReliefNet net) {
-        StringBuilder all = new StringBuilder("counts");
-        for (int what = 0; what <= 13; what++) {
-            all.append(' ').append(net.count(what));
+    static String ofSaved(Maker maker) throws Exception {
+        return print(maker, savedPages());
+    }
+
+    private static List<Page> savedPages() {
+        List<Page> pages = new ArrayList<>();
+        pages.add(Picture::addCounts);
+        pages.add(Picture::addStations);
+        pages.add(Picture::addLinks);
+        pages.add(Picture::addMessages);
+        for (int first = 0; first < 24; first += MESSAGES_A_PAGE) {
+            int from = first;
+            pages.add((net, all) -> addCopies(net, from, all));
         }
-        for (int station = 0; station < net.count(0); station++) {
-            all.append("\nstation ").append(station);
-            for (int what = 0; what <= 9; what++) {
-                all.append(' ').append(net.station(station, what));
-            }
-            for (int index = 0; net.sends(station, index) != ReliefNet.NONE; index++) {
-                all.append(" sends ").append(net.sends(station, index));
-            }
+        pages.add(Picture::addEvents);
+        pages.add(Picture::addDayAfter);
+        return pages;
+    }
+
+    private static String print(Maker maker, List<Page> pages) throws Exception {
+        StringBuilder all = new StringBuilder();
+        for (Page page : pages) {
+            page.add(maker.make(), all);
         }
-        for (int link = 0; link < net.count(1); link++) {
-            all.append("\nlink ").append(link);
-            for (int what = 0; what <= 8; what++) {
-                all.append(' ').append(net.link(link, what));
-            }
-        }
-        for (int message = 0; message < net.count(2); message++) {
-            addMessage(net, message, all);
-        }
-        for (int event = 0; event < net.count(13); event++) {
-            all.append("\nevent");
-            for (int what = 0; what <= 4; what++) {
-                all.append(' ').append(net.event(event, what));
-            }
-        }
-        all.append("\nrates ").append(net.meanHours()).append(' ').append(net.lossRate());
-        all.append("\nways ").append(net.reachable()).append(' ').append(net.keyStation());
         return all.toString();
     }
 
-    private static void addMessage(ReliefNet net, int message, StringBuilder all) {
-        all.append("\nmessage ").append(message);
-        for (int what = 0; what <= 11; what++) {
-            all.append(' ').append(net.message(message, what));
-        }
+    private static void addCounts(ReliefNet net, StringBuilder all) {
+        all.append("\ncounts ").append(java.util.Arrays.toString(Nets.counts(net)));
+        all.append("\nrates ").append(net.meanHours()).append(' ').append(net.lossRate());
+        all.append("\nways ").append(net.reachable()).append(' ').append(net.keyStation());
+    }
+
+    private static void addStations(ReliefNet net, StringBuilder all) {
         for (int station = 0; station < net.count(0); station++) {
-            all.append("\n  copy ").append(station);
-            for (int what = 0; what <= 4; what++) {
-                all.append(' ').append(net.copy(message, station, what));
-            }
-            for (int index = 0; index < net.copy(message, station, 3); index++) {
-                all.append(" by ").append(net.path(message, station, index));
+            all.append("\nstation ").append(java.util.Arrays.toString(Nets.station(net, station)));
+            all.append(" sends ").append(Nets.sent(net, station));
+        }
+    }
+
+    private static void addLinks(ReliefNet net, StringBuilder all) {
+        for (int link = 0; link < net.count(1); link++) {
+            all.append("\nlink ").append(java.util.Arrays.toString(Nets.link(net, link)));
+        }
+    }
+
+    private static void addMessages(ReliefNet net, StringBuilder all) {
+        for (int message = 0; message < net.count(2); message++) {
+            all.append("\nmessage ").append(java.util.Arrays.toString(Nets.message(net, message)));
+        }
+    }
+
+    private static void addCopies(ReliefNet net, int first, StringBuilder all) {
+        int stations = net.count(0);
+        int end = Math.min(first + MESSAGES_A_PAGE, net.count(2));
+        for (int message = first; message < end; message++) {
+            for (int station = 0; station < stations; station++) {
+                int[] copy = Nets.copy(net, message, station);
+                all.append("\ncopy ").append(message).append(' ').append(station).append(' ');
+                all.append(java.util.Arrays.toString(copy)).append(" by");
+                for (int index = 0; index < copy[3]; index++) {
+                    all.append(' ').append(net.path(message, station, index));
+                }
             }
         }
     }
 
-    /** The face tells the length only together with a change, which is taken back here. */
-    private static int textLength(ReliefNet net) {
-        for (int length = 700; length >= 0; length--) {
-            try {
-                return net.truncateText(length);
-            } catch (IllegalArgumentException tooLong) {
-                continue;
-            }
+    private static void addEvents(ReliefNet net, StringBuilder all) {
+        for (int event = 0; event < net.count(13); event++) {
+            all.append("\nevent ").append(java.util.Arrays.toString(Nets.event(net, event)));
         }
-        throw new AssertionError("no length fits");
+    }
+
+    /** What can't be seen yet shows itself when time passes. */
+    private static void addDayAfter(ReliefNet net, StringBuilder all) {
+        all.append("\na day brings ").append(net.run(24));
+        addCounts(net, all);
+    }
+
+    private static void addOutput(ReliefNet net, StringBuilder all) {
+        all.append("\noutput ").append(Nets.output(net));
+    }
+
+    private static void addText(ReliefNet net, StringBuilder all) throws Exception {
+        all.append("\nerror ").append(net.errorCode()).append(' ').append(net.errorPosition());
+        all.append("\ntext ").append(Nets.textLength(net)).append(" loads ").append(net.load());
+        all.append(" error ").append(net.errorCode()).append(' ').append(net.errorPosition());
+        addCounts(net, all);
+    }
+
+    private static void addSlot(ReliefNet net, int slot, StringBuilder all) {
+        all.append("\nslot ").append(slot);
+        try {
+            net.restore(slot);
+            addCounts(net, all);
+        } catch (IllegalStateException nothingSaved) {
+            all.append(" is empty");
+        }
     }
 }

@@ -1,21 +1,13 @@
 /** Promises 7 to 14: stations, links, settings and their numbers. */
 final class StationLinkTest {
-    private static final int LOW = Integer.MIN_VALUE;
-    private static final int HIGH = Integer.MAX_VALUE;
-
     private StationLinkTest() {
     }
 
     static void run(Check check) {
         check.test("7 adds stations", StationLinkTest::addStation);
-        check.test("7 refuses numbers out of range, then a 9th station", StationLinkTest::addStationRefused);
         check.test("8 adds links", StationLinkTest::addLink);
-        check.test("8 refuses stations, numbers and links, in this order", StationLinkTest::addLinkRefused);
-        check.test("8 refuses a 17th link", StationLinkTest::tooManyLinks);
         check.test("9 changes a station", StationLinkTest::setStation);
-        check.test("9 refuses a station, then what or the value", StationLinkTest::setStationRefused);
         check.test("10 changes a link", StationLinkTest::setLink);
-        check.test("10 refuses a link, then what or the value", StationLinkTest::setLinkRefused);
         check.test("11 sets the rules", StationLinkTest::setRules);
         check.test("11 lowered tries stop a copy at its next try", StationLinkTest::loweredTries);
         check.test("12 tells a station's numbers", StationLinkTest::station);
@@ -35,20 +27,6 @@ final class StationLinkTest {
         Check.row(Nets.station(net, 2), 7, 8, 5, 0, 0, 0, 0, 0, 0, 0);
     }
 
-    private static void addStationRefused() throws Exception {
-        ReliefNet net = new ReliefNet();
-        for (int station = 0; station < 8; station++) {
-            int[][] wrong = {{-1, 0, 1}, {24, 0, 1}, {0, -1, 1}, {0, 24, 1}, {0, 0, 0}, {0, 0, 10},
-                {LOW, 0, 1}, {0, HIGH, 1}, {0, 0, HIGH}, {0, 0, LOW}};
-            for (int[] numbers : wrong) {
-                Check.noArgument(net, () -> net.addStation(numbers[0], numbers[1], numbers[2]));
-            }
-            Check.equal(station, net.addStation(0, 0, 1));
-        }
-        Check.noState(net, () -> net.addStation(0, 0, 1));
-        Check.noArgument(net, () -> net.addStation(24, 0, 1));
-    }
-
     private static void addLink() {
         ReliefNet net = new ReliefNet();
         net.addStation(0, 23, 1);
@@ -62,44 +40,6 @@ final class StationLinkTest {
         Check.equal(1, net.station(0, 9));
         Check.row(Nets.way(net, 0, 2, 5), 6, 1, 2);
         Check.row(Nets.way(net, 2, 0, 5), 6, 1, 0);
-    }
-
-    private static void addLinkRefused() throws Exception {
-        ReliefNet net = Nets.row(3, 1, 50);
-        int[][] noStation = {{-1, 0}, {0, -1}, {3, 0}, {0, 3}, {3, 3}, {-1, -1}, {LOW, 0}, {0, HIGH}};
-        for (int[] ends : noStation) {
-            Check.noIndex(net, () -> net.addLink(ends[0], ends[1], 0, 0, 0));
-            Check.noIndex(net, () -> net.addLink(ends[0], ends[1], 24, -1, 101));
-        }
-        int[][] noNumber = {{-1, 0, 0}, {24, 0, 0}, {0, -1, 0}, {0, 24, 0}, {0, 0, -1}, {0, 0, 101}};
-        for (int[] numbers : noNumber) {
-            Check.noArgument(net, () -> net.addLink(0, 2, numbers[0], numbers[1], numbers[2]));
-            Check.noArgument(net, () -> net.addLink(0, 1, numbers[0], numbers[1], numbers[2]));
-        }
-        Check.noArgument(net, () -> net.addLink(1, 1, 0, 0, 0));
-        Check.noState(net, () -> net.addLink(0, 1, 0, 0, 0));
-        Check.noState(net, () -> net.addLink(1, 0, 0, 0, 0));
-        Check.equal(2, net.addLink(2, 0, 0, 0, 0));
-    }
-
-    private static void tooManyLinks() throws Exception {
-        ReliefNet net = new ReliefNet();
-        for (int station = 0; station < 8; station++) {
-            net.addStation(0, 23, 1);
-        }
-        int link = 0;
-        for (int one = 0; one < 4; one++) {
-            for (int other = 4; other < 8; other++) {
-                Check.equal(link, net.addLink(one, other, 0, 23, 9));
-                link++;
-            }
-        }
-        Check.noState(net, () -> net.addLink(0, 1, 0, 0, 0));
-        Check.noState(net, () -> net.addLink(0, 4, 0, 0, 0));
-        Check.noArgument(net, () -> net.addLink(0, 1, 0, 0, 101));
-        Check.noIndex(net, () -> net.addLink(0, 8, 0, 0, 101));
-        Check.equal(4, net.station(7, 9));
-        Check.equal(4, net.way(0, 3, 0, 2));
     }
 
     private static void setStation() {
@@ -120,18 +60,6 @@ final class StationLinkTest {
         Check.row(Nets.way(net, 1, 0, 0), -1, -1, -1);
     }
 
-    private static void setStationRefused() throws Exception {
-        ReliefNet net = Nets.row(2, 4, 100);
-        for (int station : new int[] {-1, 2, LOW, HIGH}) {
-            Check.noIndex(net, () -> net.setStation(station, 0, 0));
-            Check.noIndex(net, () -> net.setStation(station, 3, 24));
-        }
-        int[][] wrong = {{-1, 1}, {3, 1}, {LOW, 1}, {HIGH, 1}, {0, -1}, {0, 24}, {1, -1}, {1, 24}, {2, 0}, {2, 10}};
-        for (int[] numbers : wrong) {
-            Check.noArgument(net, () -> net.setStation(1, numbers[0], numbers[1]));
-        }
-    }
-
     private static void setLink() {
         ReliefNet net = Nets.row(3, 4, 30);
         Check.equal(0, net.setLink(1, 0, 23));
@@ -147,24 +75,8 @@ final class StationLinkTest {
         Check.row(Nets.way(net, 1, 2, 1), 2, 1, 2);
     }
 
-    private static void setLinkRefused() throws Exception {
-        ReliefNet net = Nets.row(3, 4, 30);
-        for (int link : new int[] {-1, 2, LOW, HIGH}) {
-            Check.noIndex(net, () -> net.setLink(link, 0, 0));
-            Check.noIndex(net, () -> net.setLink(link, 3, 24));
-        }
-        int[][] wrong = {{-1, 1}, {3, 1}, {LOW, 1}, {HIGH, 1}, {0, -1}, {0, 24}, {1, -1}, {1, 24}, {2, -1}, {2, 101}};
-        for (int[] numbers : wrong) {
-            Check.noArgument(net, () -> net.setLink(1, numbers[0], numbers[1]));
-        }
-    }
-
-    private static void setRules() throws Exception {
+    private static void setRules() {
         ReliefNet net = Nets.row(2, 1, 50);
-        int[][] wrong = {{0, 1, 0}, {201, 1, 0}, {1, 0, 0}, {1, 10, 0}, {1, 1, -1}, {1, 1, 1000003}, {LOW, HIGH, LOW}};
-        for (int[] rules : wrong) {
-            Check.noArgument(net, () -> net.setRules(rules[0], rules[1], rules[2]));
-        }
         net.setRules(1, 1, 0);
         Check.row(new int[] {net.count(4), net.count(5), net.count(6)}, 1, 1, 0);
         net.setRules(200, 9, 1000002);
@@ -188,7 +100,7 @@ final class StationLinkTest {
         Check.row(Nets.copy(net, 0, 0), 3, 5, 0, 1, -1);
     }
 
-    private static void station() throws Exception {
+    private static void station() {
         ReliefNet net = Nets.row(4, 3, 100);
         net.send(0, 2, 1);
         net.send(0, 2, 1);
@@ -203,13 +115,6 @@ final class StationLinkTest {
         Check.row(Nets.station(net, 1), 0, 23, 3, 1, 0, 3, 3, 0, 0, 2);
         Check.row(Nets.station(net, 2), 0, 23, 3, 1, 0, 1, 3, 0, 2, 2);
         Check.row(Nets.station(net, 3), 0, 23, 3, 1, 0, 1, 0, 0, 0, 1);
-        for (int station : new int[] {-1, 4, LOW, HIGH}) {
-            Check.noIndex(net, () -> net.station(station, 0));
-            Check.noIndex(net, () -> net.station(station, 10));
-        }
-        for (int what : new int[] {-1, 10, LOW, HIGH}) {
-            Check.noArgument(net, () -> net.station(0, what));
-        }
     }
 
     private static void onAir() {
@@ -228,7 +133,7 @@ final class StationLinkTest {
         }
     }
 
-    private static void link() throws Exception {
+    private static void link() {
         ReliefNet net = Nets.row(3, 9, 100);
         net.setLink(1, 2, 0);
         net.send(0, 2, 0);
@@ -243,13 +148,6 @@ final class StationLinkTest {
         net.setRules(48, 9, 58);
         net.run(1);
         Check.row(Nets.link(net, 1), 1, 2, 0, 23, 50, 1, 3, 2, 1);
-        for (int link : new int[] {-1, 2, LOW, HIGH}) {
-            Check.noIndex(net, () -> net.link(link, 0));
-            Check.noIndex(net, () -> net.link(link, 9));
-        }
-        for (int what : new int[] {-1, 9, LOW, HIGH}) {
-            Check.noArgument(net, () -> net.link(0, what));
-        }
     }
 
     private static void open() {
@@ -269,7 +167,7 @@ final class StationLinkTest {
         }
     }
 
-    private static void count() throws Exception {
+    private static void count() {
         ReliefNet net = Nets.row(3, 9, 100);
         net.setRules(10, 2, 77);
         net.send(0, 2, 0);
@@ -289,8 +187,5 @@ final class StationLinkTest {
         net.run(30);
         Check.equal(31, net.count(3));
         Check.equal(2, net.count(8));
-        for (int what : new int[] {-1, 14, LOW, HIGH}) {
-            Check.noArgument(net, () -> net.count(what));
-        }
     }
 }

@@ -12,7 +12,6 @@ final class WayTest {
         check.test("15 no next station if all best ways wait", WayTest::waitsFirst);
         check.test("15 a station can't be left in the hour in which one comes to it", WayTest::goesOnLater);
         check.test("15 ways of more than 24 hours do not count", WayTest::dayLong);
-        check.test("15 refuses a station, then the other arguments", WayTest::refused);
         check.test("16 counts pairs", WayTest::reachable);
         check.test("16 pairs are ordered", WayTest::oneWay);
         check.test("17 finds the key station", WayTest::key);
@@ -119,20 +118,6 @@ final class WayTest {
         Check.row(Nets.way(net, 0, 2, 7), 31, 2, 1);
         Check.row(Nets.way(net, 0, 2, 6), -1, -1, -1);
         Check.row(Nets.way(net, 0, 2, 8), -1, -1, -1);
-    }
-
-    private static void refused() throws Exception {
-        ReliefNet net = Nets.row(3, 1, 0);
-        int[][] noStation = {{-1, 0}, {0, -1}, {3, 0}, {0, 3}, {3, 3}, {Integer.MIN_VALUE, 0}, {0, Integer.MAX_VALUE}};
-        for (int[] ends : noStation) {
-            Check.noIndex(net, () -> net.way(ends[0], ends[1], 0, 0));
-            Check.noIndex(net, () -> net.way(ends[0], ends[1], -1, 3));
-        }
-        int[][] wrong = {{0, 0, 0, 0}, {0, 1, -1, 0}, {0, 1, 100001, 0}, {0, 1, 0, -1}, {0, 1, 0, 3},
-            {0, 1, Integer.MAX_VALUE, 0}, {0, 1, Integer.MIN_VALUE, 0}, {0, 1, 0, Integer.MAX_VALUE}};
-        for (int[] way : wrong) {
-            Check.noArgument(net, () -> net.way(way[0], way[1], way[2], way[3]));
-        }
     }
 
     private static void reachable() {
