@@ -1,3 +1,4 @@
+import java.lang.reflect.Field;
 import java.lang.reflect.Method;
 import java.lang.reflect.Modifier;
 import java.util.ArrayList;
@@ -27,10 +28,11 @@ final class FaceSentences {
         doc.section("Title");
         doc.plain("# ReliefNet");
         doc.section("What it is");
-        doc.plain("A relief radio net: stations that are on the air by hours, links that are open in windows of propagation, "
-                + "messages that are sent from station to station by priorities along ways that arrive earliest, frames and "
-                + "acknowledgements that can be lost, repeats, duplicates that are found, messages that are delivered once, or "
-                + "listed with the hop where they ended; a log of what happened, and predictions.",
+        doc.plain("A relief radio net: stations that are on the air by hours, links that are open in windows of "
+                + "propagation, messages that are sent from station to station by priorities along ways that arrive "
+                + "earliest, frames and acknowledgements that can be lost, repeats, duplicates that are found, "
+                + "messages that are delivered once, or listed with the hop where they ended; a log of what happened, "
+                + "and predictions.",
                 "what later calls answer is free.");
         doc.says("An object is used for at most 512 calls after it has been made;", () -> {
             // Four calls make the net, the 512th one is the last that has to be answered.
@@ -49,9 +51,11 @@ final class FaceSentences {
         doc.says("public final class ReliefNet {", () -> {
             Check.equal(Modifier.PUBLIC | Modifier.FINAL, ReliefNet.class.getModifiers());
             Check.equal("", ReliefNet.class.getPackageName());
-            // There is nothing that the document does not name.
+            // Nothing can be seen that the document does not name.
             Check.equal(33, declared().size());
-            Check.equal(1, ReliefNet.class.getFields().length);
+            for (Field field : ReliefNet.class.getDeclaredFields()) {
+                Check.equal(field.getName().equals("NONE"), !Modifier.isPrivate(field.getModifiers()));
+            }
         });
         doc.says("public static final int NONE = -1;", () -> {
             Check.equal("public static final int ReliefNet.NONE", ReliefNet.class.getField("NONE").toString());
@@ -116,7 +120,8 @@ final class FaceSentences {
                     thrown.add(type.getSimpleName());
                 }
                 String modifiers = Modifier.toString(method.getModifiers()).replace("public", "");
-                all.add(modifiers + method.getReturnType() + " " + method.getName() + "(" + String.join(", ", types) + ")"
+                String head = modifiers + method.getReturnType() + " " + method.getName();
+                all.add(head + "(" + String.join(", ", types) + ")"
                         + (thrown.isEmpty() ? "" : " throws " + String.join(", ", thrown)));
             }
         }
@@ -131,26 +136,30 @@ final class FaceSentences {
             Refused.state(FaceSentences::fullText, net -> net.appendText(0x73656564), net -> net.restore(1));
             Refused.argument(Nets::history, net -> net.truncateText(8), net -> net.addStation(0, 0, 0),
                     net -> net.addLink(0, 3, 0, 0, 101), net -> net.setStation(0, 2, 0), net -> net.setLink(0, 2, 101),
-                    net -> net.setRules(1, 1, -1), net -> net.station(0, 10), net -> net.link(0, 9), net -> net.count(14),
-                    net -> net.way(0, 1, 0, 3), net -> net.send(0, 1, 4), net -> net.setPriority(0, 4),
-                    net -> net.message(0, 12), net -> net.copy(0, 0, 5), net -> net.run(73), net -> net.stateAfter(0, 73),
-                    net -> net.hoursTo(25), net -> net.event(0, 5), net -> net.save(2), net -> net.restore(2));
+                    net -> net.setRules(1, 1, -1), net -> net.station(0, 10), net -> net.link(0, 9),
+                    net -> net.count(14), net -> net.way(0, 1, 0, 3), net -> net.send(0, 1, 4),
+                    net -> net.setPriority(0, 4), net -> net.message(0, 12), net -> net.copy(0, 0, 5),
+                    net -> net.run(73), net -> net.stateAfter(0, 73), net -> net.hoursTo(25), net -> net.event(0, 5),
+                    net -> net.save(2), net -> net.restore(2));
             Refused.index(Nets::history, net -> net.addLink(0, 5, 0, 0, 0), net -> net.setStation(5, 0, 0),
-                    net -> net.setLink(6, 0, 0), net -> net.station(5, 0), net -> net.link(6, 0), net -> net.way(0, 5, 0, 0),
-                    net -> net.send(0, 5, 0), net -> net.setPriority(12, 0), net -> net.takeBack(12),
-                    net -> net.message(12, 0), net -> net.copy(12, 0, 0), net -> net.path(0, 0, 8), net -> net.sends(5, 0),
-                    net -> net.stateAfter(12, 1), net -> net.event(40, 0), net -> net.write(40));
+                    net -> net.setLink(6, 0, 0), net -> net.station(5, 0), net -> net.link(6, 0),
+                    net -> net.way(0, 5, 0, 0), net -> net.send(0, 5, 0), net -> net.setPriority(12, 0),
+                    net -> net.takeBack(12), net -> net.message(12, 0), net -> net.copy(12, 0, 0),
+                    net -> net.path(0, 0, 8), net -> net.sends(5, 0), net -> net.stateAfter(12, 1),
+                    net -> net.event(40, 0), net -> net.write(40));
         });
-        doc.says("If several exceptions apply, the one that comes first in the method's list of exceptions is thrown.", () -> {
+        doc.says("If several exceptions apply, the one that comes first in the method's list of exceptions is "
+                + "thrown.", () -> {
             // Where there are eight stations, sixteen links and twenty-four messages, the last one always applies.
             Refused.argument(Nets::full, net -> net.addStation(24, 0, 1), net -> net.addLink(0, 0, 0, 0, 0),
                     net -> net.addLink(0, 4, 24, 0, 0), net -> net.send(0, 0, 0), net -> net.send(0, 1, 4),
                     net -> net.restore(2));
             Refused.index(Nets::full, net -> net.addLink(8, 8, 24, 24, 101), net -> net.addLink(0, 8, 0, 0, 0),
                     net -> net.setStation(8, 3, 99), net -> net.setLink(16, 3, 999), net -> net.station(8, 10),
-                    net -> net.link(16, 9), net -> net.way(8, 8, -1, 3), net -> net.send(8, 8, 4), net -> net.send(8, 0, 0),
-                    net -> net.setPriority(24, 4), net -> net.message(24, 12), net -> net.copy(24, 0, 5),
-                    net -> net.copy(0, 8, 5), net -> net.stateAfter(24, 73), net -> net.event(40, 5));
+                    net -> net.link(16, 9), net -> net.way(8, 8, -1, 3), net -> net.send(8, 8, 4),
+                    net -> net.send(8, 0, 0), net -> net.setPriority(24, 4), net -> net.message(24, 12),
+                    net -> net.copy(24, 0, 5), net -> net.copy(0, 8, 5), net -> net.stateAfter(24, 73),
+                    net -> net.event(40, 5));
         });
         doc.says("- `NONE = -1`: There is none.", () -> Check.equal(-1, ReliefNet.NONE));
         doc.plain("The constants:",

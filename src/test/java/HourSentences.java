@@ -18,14 +18,6 @@ final class HourSentences {
         means(doc);
     }
 
-    /** Stations in a row, one message from the first to the last, and draws that go as told for QUALITY 50. */
-    private static ReliefNet drawn(int stations, int tries, String draws) {
-        ReliefNet net = Nets.row(stations, 9, 50);
-        net.setRules(48, tries, Draws.around(50, draws));
-        net.send(0, stations - 1, 0);
-        return net;
-    }
-
     /** One frame from 0 to 1, with this x before it; a message that is lost takes one draw. */
     private static ReliefNet frame(int quality, int x) {
         ReliefNet net = Nets.row(2, 1, quality);
@@ -79,7 +71,8 @@ final class HourSentences {
     private static void expiry(Sentences doc) {
         doc.section("AN HOUR");
         doc.plain("The hour that begins at the present time passes in these steps:");
-        doc.says("1. Copies that wait expire if the time minus the time at which their message was born is LIFE or more",
+        doc.says("1. Copies that wait expire if the time minus the time at which their message was born is LIFE or "
+                + "more",
                 () -> {
             for (int life : new int[] {1, 2, 48, 200}) {
                 ReliefNet net = Nets.row(2, 9, 100);
@@ -104,7 +97,7 @@ final class HourSentences {
             late.run(1);
             Check.row(new int[] {late.copy(0, 0, 0), late.message(0, 7)}, 4, 5);
             // Copies that do not wait do not expire, those of a delivered message that wait do.
-            ReliefNet delivered = drawn(2, 9, "+-");
+            ReliefNet delivered = Nets.drawn(2, 9, "+-");
             delivered.setRules(1, 9, delivered.count(6));
             delivered.run(2);
             Check.row(new int[] {delivered.copy(0, 0, 0), delivered.copy(0, 1, 0)}, 4, 5);
@@ -144,7 +137,8 @@ final class HourSentences {
             }
             Check.equal(event, net.count(13));
         });
-        doc.says("A station looks at its copies that wait, are there by now (not those that it got in this hour)", () -> {
+        doc.says("A station looks at its copies that wait, are there by now (not those that it got in this "
+                + "hour)", () -> {
             // 0 sends before 1 does; 1 does not send on what it has just got.
             ReliefNet net = Nets.row(8, 9, 100);
             net.send(0, 7, 0);
@@ -177,8 +171,8 @@ final class HourSentences {
                 event += 2;
             }
         });
-        doc.says("The first RATE of them are sent, one after the other, each once to its NEXT station, by the link l between "
-                + "both:", () -> {
+        doc.says("The first RATE of them are sent, one after the other, each once to its NEXT station, by the link l "
+                + "between both:", () -> {
             for (int rate : new int[] {1, 3, 4, 9}) {
                 // One less than RATE, as many, and one more; all are lost, and none is sent twice in an hour.
                 for (int many = rate - 1; many <= rate + 1; many++) {
@@ -214,10 +208,10 @@ final class HourSentences {
                 Check.row(new int[] {net.link(0, 7), net.station(1, 6), net.copy(0, 1, 0)}, 0, 1, 5);
             }
         });
-        doc.says("If it has a copy of the message already (of any state but 0), it is a duplicate, and nothing else happens "
-                + "there.", HourSentences::duplicates);
-        doc.says("If not, the station has a copy now, with the path of the copy that was sent and the station itself; it is "
-                + "delivered if the message goes to this station, and waits otherwise;", () -> {
+        doc.says("If it has a copy of the message already (of any state but 0), it is a duplicate, and nothing else "
+                + "happens there.", HourSentences::duplicates);
+        doc.says("If not, the station has a copy now, with the path of the copy that was sent and the station itself; "
+                + "it is delivered if the message goes to this station, and waits otherwise;", () -> {
             ReliefNet net = Nets.row(3, 9, 100);
             net.send(0, 2, 0);
             net.run(1);
@@ -238,7 +232,7 @@ final class HourSentences {
         });
     }
 
-    /** The second station has a copy that waits, was passed on, was stopped or is delivered, and gets the frame again. */
+    /** The second station's copy waits, was passed on, was stopped or is delivered, and the frame comes again. */
     private static void duplicates() {
         // An expired copy can't be met: where one of a message expires, all of it that wait do.
         for (int state : new int[] {1, 2, 3, 5}) {
@@ -272,15 +266,15 @@ final class HourSentences {
     }
 
     private static void acknowledgements(Sentences doc) {
-        doc.says("Then, in both cases, an acknowledgement is drawn: if the draw is less than the QUALITY of l, the copy that "
-                + "was sent is passed on.", () -> {
+        doc.says("Then, in both cases, an acknowledgement is drawn: if the draw is less than the QUALITY of l, the "
+                + "copy that was sent is passed on.", () -> {
             for (int quality : new int[] {1, 50, 99, 100}) {
                 ReliefNet net = frame(quality, Draws.exactly(quality - 1, quality - 1));
                 Check.row(new int[] {net.copy(0, 0, 0), net.copy(0, 0, 1), net.link(0, 8)}, 2, 0, 0);
                 Check.equal(Draws.after(Draws.exactly(quality - 1, quality - 1), 2), net.count(6));
             }
             // For a duplicate too.
-            ReliefNet twice = drawn(2, 9, "+-++");
+            ReliefNet twice = Nets.drawn(2, 9, "+-++");
             int x = twice.count(6);
             twice.run(2);
             Check.row(new int[] {twice.count(12), twice.copy(0, 0, 0), twice.copy(0, 0, 1)}, 1, 2, 1);
@@ -294,7 +288,7 @@ final class HourSentences {
             }
         });
         doc.says("If the frame or the acknowledgement is lost, the copy that was sent has 1 try more", () -> {
-            ReliefNet net = drawn(2, 9, "-+---+-++");
+            ReliefNet net = Nets.drawn(2, 9, "-+---+-++");
             for (int tries : new int[] {0, 1, 2, 3, 4, 5, 5}) {
                 Check.equal(tries, net.copy(0, 0, 1));
                 net.run(1);
@@ -316,7 +310,7 @@ final class HourSentences {
                 Check.row(new int[] {net.count(11), net.message(0, 4)}, tries, 2);
             }
             // By a lost acknowledgement likewise.
-            ReliefNet unsure = drawn(2, 2, "-+-");
+            ReliefNet unsure = Nets.drawn(2, 2, "-+-");
             unsure.run(2);
             Check.row(new int[] {unsure.copy(0, 0, 0), unsure.copy(0, 0, 1), unsure.message(0, 4)}, 3, 2, 1);
         });
@@ -330,9 +324,9 @@ final class HourSentences {
     }
 
     private static void ends(Sentences doc) {
-        doc.says("When a copy expires, is stopped, or is taken back, the end of its message is noted: the station of the copy, "
-                + "and the station to which it was sent at last", () -> {
-            ReliefNet net = drawn(3, 1, "+--");
+        doc.says("When a copy expires, is stopped, or is taken back, the end of its message is noted: the station of "
+                + "the copy, and the station to which it was sent at last", () -> {
+            ReliefNet net = Nets.drawn(3, 1, "+--");
             Check.row(end(net), NONE, NONE);
             net.run(1);
             Check.row(end(net), 0, 1);
@@ -354,20 +348,20 @@ final class HourSentences {
         });
         doc.says("; a later end replaces an earlier one.", () -> {
             // Both copies expire in one hour, and both are taken back in one call: the last station counts.
-            ReliefNet old = drawn(3, 9, "+-");
+            ReliefNet old = Nets.drawn(3, 9, "+-");
             old.setRules(1, 9, old.count(6));
             old.run(2);
             Check.row(end(old), 1, NONE);
-            ReliefNet back = drawn(3, 9, "+-");
+            ReliefNet back = Nets.drawn(3, 9, "+-");
             back.run(1);
             back.takeBack(0);
             Check.row(end(back), 1, NONE);
             // A stop behind a stop, and an end behind the delivery.
-            ReliefNet stopped = drawn(3, 1, "+-");
+            ReliefNet stopped = Nets.drawn(3, 1, "+-");
             stopped.run(1);
             stopped.takeBack(0);
             Check.row(end(stopped), 1, NONE);
-            ReliefNet delivered = drawn(2, 2, "+-");
+            ReliefNet delivered = Nets.drawn(2, 2, "+-");
             delivered.run(1);
             Check.row(end(delivered), NONE, NONE);
             delivered.setLink(0, 2, 0);
@@ -440,7 +434,7 @@ final class HourSentences {
             ReliefNet all = Nets.full();
             Check.equal(24, all.run(72));
             // A duplicate is not delivered again.
-            ReliefNet twice = drawn(2, 9, "+-+-++");
+            ReliefNet twice = Nets.drawn(2, 9, "+-+-++");
             Check.equal(1, twice.run(1));
             Check.equal(0, twice.run(2));
         });
@@ -515,8 +509,8 @@ final class HourSentences {
 
     private static void hoursTo(Sentences doc) {
         doc.section("Promise 27");
-        doc.says("Predicts after how many hours so many messages in all are delivered, if only time passes (with the draws "
-                + "that would come); nothing changes.", () -> {
+        doc.says("Predicts after how many hours so many messages in all are delivered, if only time passes (with the "
+                + "draws that would come); nothing changes.", () -> {
             Check.equal(Picture.of(Nets::history), Picture.of(() -> {
                 ReliefNet net = Nets.history();
                 for (int many = 1; many <= 24; many++) {
@@ -557,7 +551,8 @@ final class HourSentences {
         });
         doc.says("; NONE if it takes more.", () -> {
             ReliefNet net = daily(4);
-            Check.row(new int[] {net.hoursTo(3), net.hoursTo(4), net.hoursTo(5), net.hoursTo(24)}, 72, NONE, NONE, NONE);
+            int[] hours = {net.hoursTo(3), net.hoursTo(4), net.hoursTo(5), net.hoursTo(24)};
+            Check.row(hours, 72, NONE, NONE, NONE);
             net.setLink(0, 0, 0);
             net.setLink(0, 1, 0);
             // Now in the hours 0, 24, 48 and 72: the last is the 73rd.
@@ -571,9 +566,9 @@ final class HourSentences {
 
     private static void means(Sentences doc) {
         doc.section("Promise 28");
-        doc.says("Returns the mean number of hours from the birth to the delivery of delivered messages: the sum of (the time "
-                + "from which on it is delivered, minus the time at which it was born) divided by their number, both converted "
-                + "to double", () -> {
+        doc.says("Returns the mean number of hours from the birth to the delivery of delivered messages: the sum of "
+                + "(the time from which on it is delivered, minus the time at which it was born) divided by their "
+                + "number, both converted to double", () -> {
             ReliefNet net = Nets.row(4, 9, 100);
             net.run(5);
             net.send(0, 1, 0);
@@ -603,15 +598,15 @@ final class HourSentences {
             Check.equal(-1.0, net.meanHours());
         });
         doc.section("Promise 29");
-        doc.says("Returns the part of frames that were lost, or whose acknowledgements were lost: their number divided by the "
-                + "number of frames that were sent, both converted to float", () -> {
-            ReliefNet net = drawn(2, 9, "-+-+++");
+        doc.says("Returns the part of frames that were lost, or whose acknowledgements were lost: their number "
+                + "divided by the number of frames that were sent, both converted to float", () -> {
+            ReliefNet net = Nets.drawn(2, 9, "-+-+++");
             float[] due = {0f, 1f, 1f, 2f / 3f, 2f / 3f};
             for (float part : due) {
                 Check.equal(part, net.lossRate());
                 net.run(1);
             }
-            ReliefNet third = drawn(2, 9, "--+-++");
+            ReliefNet third = Nets.drawn(2, 9, "--+-++");
             third.run(4);
             Check.equal(3f / 4f, third.lossRate());
             ReliefNet lost = Nets.row(2, 9, 0);

@@ -281,7 +281,8 @@ final class HourTest {
 
     static ReliefNet busy() {
         ReliefNet net = Nets.loaded("station 0 20 2;station 5 3 1;station 0 23 3;station 8 22 9;station 20 16 1;"
-                + "link 0 1 0 23 60;link 1 2 4 19 80;link 2 3 0 23 55;link 0 4 22 9 70;link 4 3 1 13 40;link 0 2 12 18 90;"
+                + "link 0 1 0 23 60;link 1 2 4 19 80;link 2 3 0 23 55;link 0 4 22 9 70;link 4 3 1 13 40;"
+                + "link 0 2 12 18 90;"
                 + "life 60;tries 4;seed 4711;");
         for (int message = 0; message < 20; message++) {
             net.send(message % 5, (message + 1 + message / 5) % 5, message * 7 % 4);

@@ -16,14 +16,6 @@ final class LogSentences {
         restore(doc);
     }
 
-    /** Stations in a row, one message from the first to the last, and draws that go as told for QUALITY 50. */
-    private static ReliefNet drawn(int stations, int tries, String draws) {
-        ReliefNet net = Nets.row(stations, 9, 50);
-        net.setRules(48, tries, Draws.around(50, draws));
-        net.send(0, stations - 1, 0);
-        return net;
-    }
-
     /** So many events: messages that are born, and from the 24th on taken back; each message is told twice. */
     private static ReliefNet events(int many) {
         ReliefNet net = Nets.row(2, 9, 100);
@@ -93,7 +85,8 @@ final class LogSentences {
             net.send(1, 0, 0);
             net.takeBack(1);
             net.run(2);
-            int[][] due = {{0, 0, 0, 0, NONE}, {0, 0, 1, 1, NONE}, {0, 8, 1, 1, NONE}, {0, 2, 0, 0, 1}, {1, 7, 0, 0, NONE}};
+            int[][] due = {{0, 0, 0, 0, NONE}, {0, 0, 1, 1, NONE}, {0, 8, 1, 1, NONE}, {0, 2, 0, 0, 1},
+                {1, 7, 0, 0, NONE}};
             for (int event = 0; event < due.length; event++) {
                 Check.row(Nets.event(net, event), due[event]);
             }
@@ -123,13 +116,13 @@ final class LogSentences {
             Check.equal(2, net.count(13));
         });
         doc.says("; 3 a frame was got, but its acknowledgement is lost (likewise)", () -> {
-            ReliefNet net = drawn(3, 9, "+-");
+            ReliefNet net = Nets.drawn(3, 9, "+-");
             net.run(1);
             Check.row(Nets.event(net, 1), 0, 3, 0, 0, 1);
             Check.equal(2, net.count(13));
         });
         doc.says("; 4 a duplicate was found (the receiver, the sender)", () -> {
-            ReliefNet net = drawn(2, 9, "+-++");
+            ReliefNet net = Nets.drawn(2, 9, "+-++");
             net.run(2);
             Check.row(Nets.event(net, 3), 1, 4, 0, 1, 0);
             Check.equal(5, net.count(13));
@@ -160,7 +153,7 @@ final class LogSentences {
             Check.equal(3, net.count(13));
         });
         doc.says("; 8 a copy is taken back (its station)", () -> {
-            ReliefNet net = drawn(3, 9, "+-");
+            ReliefNet net = Nets.drawn(3, 9, "+-");
             net.run(1);
             net.takeBack(0);
             Check.row(Nets.event(net, 2), 1, 8, 0, 0, NONE);
@@ -180,7 +173,8 @@ final class LogSentences {
     }
 
     private static void order(Sentences doc) {
-        doc.says("For one frame the events come in this order: 4 or 5, if there is one, then 1, 2 or 3, then 6.", () -> {
+        doc.says("For one frame the events come in this order: 4 or 5, if there is one, then 1, 2 or 3, then "
+                + "6.", () -> {
             // What one frame brings, after a frame before it, with one try or two.
             String[][] due = {
                 {"+", "++", "51"}, {"+", "+-", "53"}, {"+", "-", "2"},
@@ -188,12 +182,12 @@ final class LogSentences {
                 {"+-", "++", "41"}, {"+-", "+-", "436"}, {"+-", "-", "26"}};
             for (String[] one : due) {
                 boolean again = one[0].equals("+-");
-                ReliefNet net = drawn(2, one[0].equals("+") ? 9 : again ? 2 : 1, again ? "+-" + one[1] : one[1]);
+                ReliefNet net = Nets.drawn(2, one[0].equals("+") ? 9 : again ? 2 : 1, again ? "+-" + one[1] : one[1]);
                 net.run(again ? 2 : 1);
                 Check.equal(one[2], kindsFrom(net, again ? 3 : 1));
             }
             // At a station on the way there is neither 4 nor 5.
-            ReliefNet between = drawn(3, 1, "+-");
+            ReliefNet between = Nets.drawn(3, 1, "+-");
             between.run(1);
             Check.equal("36", kindsFrom(between, 1));
         });
@@ -231,7 +225,8 @@ final class LogSentences {
 
     private static void write(Sentences doc) {
         doc.section("Promise 31");
-        doc.says("Writes an event as the output, which is replaced: the time, a space, m and the message, a space, the station",
+        doc.says("Writes an event as the output, which is replaced: the time, a space, m and the message, a space, "
+                + "the station",
                 () -> {
             ReliefNet net = Nets.row(3, 9, 100);
             net.send(2, 0, 0);
@@ -253,17 +248,18 @@ final class LogSentences {
                 Check.equal(due[event], Nets.written(net, event));
             }
         });
-        doc.says(", a space, and the word of the kind: born, passed, lost, unsure, double, delivered, stopped, expired or back.",
+        doc.says(", a space, and the word of the kind: born, passed, lost, unsure, double, delivered, stopped, "
+                + "expired or back.",
                 () -> {
             // A frame that is lost, one whose acknowledgement is, a duplicate likewise, and one that is passed on.
-            ReliefNet net = drawn(2, 9, "-+-+-++");
+            ReliefNet net = Nets.drawn(2, 9, "-+-+-++");
             net.run(4);
             String[] due = {"0 m0 0 born", "0 m0 0>1 lost", "1 m0 1>0 delivered", "1 m0 0>1 unsure", "2 m0 1>0 double",
                 "2 m0 0>1 unsure", "3 m0 1>0 double", "3 m0 0>1 passed"};
             for (int event = 0; event < due.length; event++) {
                 Check.equal(due[event], Nets.written(net, event));
             }
-            ReliefNet ends = drawn(2, 1, "-");
+            ReliefNet ends = Nets.drawn(2, 1, "-");
             ends.run(1);
             ends.send(0, 1, 0);
             ends.takeBack(1);
@@ -307,27 +303,19 @@ final class LogSentences {
         });
     }
 
-    /** Times at which a number gets one digit more, and messages likewise. */
+    /** Times and messages at which a number gets one digit more. */
     private static void decimal() {
         int[] times = {0, 9, 10, 99, 100, 999, 1000, 9999, 10000};
-        ReliefNet net = Nets.row(2, 9, 100);
-        int message = 0;
         for (int time : times) {
-            while (net.count(3) < time) {
-                net.run(Math.min(72, time - net.count(3)));
+            ReliefNet net = Nets.row(2, 9, 100);
+            for (int passed = 0; passed < time; passed += Math.min(72, time - passed)) {
+                net.run(Math.min(72, time - passed));
             }
             net.send(1, 0, 0);
-            net.takeBack(message);
-            Check.equal((time + " m" + message + " 1 born").length(), net.write(net.count(13) - 2));
-            message++;
+            Check.equal(time + " m0 1 born", Nets.written(net, 0));
         }
-        for (int event = 0; event < 9; event++) {
-            // All are told anew, since a net that has been asked for every byte would be asked too often.
-            Check.equal(times[event] + " m" + event + " 1 born", Nets.written(net, 2 * event));
-        }
-        ReliefNet many = events(24);
         for (int number : new int[] {0, 9, 10, 19, 20, 23}) {
-            Check.equal("0 m" + number + " 0 born", Nets.written(many, number));
+            Check.equal("0 m" + number + " 0 born", Nets.written(events(24), number));
         }
         // The largest time that 512 calls can reach has as many digits.
         ReliefNet late = Nets.row(2, 9, 100);

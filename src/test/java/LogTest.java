@@ -7,7 +7,6 @@ final class LogTest {
         check.test("30 tells an event's numbers", LogTest::event);
         check.test("30 keeps the latest 40 events", LogTest::latest);
         check.test("31 writes every kind", LogTest::kinds);
-        check.test("31 writes large numbers", LogTest::largeNumbers);
         check.test("32 tells the bytes of the output", LogTest::output);
     }
 
@@ -82,29 +81,6 @@ final class LogTest {
         for (int event = 0; event < kinds.length; event++) {
             Check.equal(kinds[event], other.event(event, 1));
         }
-    }
-
-    private static void largeNumbers() {
-        ReliefNet net = Nets.row(2, 1, 100);
-        for (int message = 0; message < 11; message++) {
-            net.send(1, 0, 0);
-        }
-        Check.equal("0 m9 1 born", Nets.written(net, 9));
-        Check.equal("0 m10 1 born", Nets.written(net, 10));
-        net.run(10);
-        net.send(0, 1, 0);
-        Check.equal("10 m11 0 born", Nets.written(net, net.count(13) - 1));
-        for (int run = 0; run < 405; run++) {
-            net.run(72);
-        }
-        net.send(0, 1, 0);
-        Check.equal("29170 m12 0 born", Nets.written(net, net.count(13) - 1));
-        net.run(30);
-        net.run(72);
-        net.send(0, 1, 0);
-        net.run(1);
-        Check.equal("29272 m13 1>0 delivered", Nets.written(net, net.count(13) - 2));
-        Check.equal(23, net.write(net.count(13) - 2));
     }
 
     private static void output() {

@@ -19,14 +19,6 @@ final class MessageSentences {
         sends(doc);
     }
 
-    /** Stations in a row, one message from the first to the last, and draws that go as told for QUALITY 50. */
-    private static ReliefNet drawn(int stations, int tries, String draws) {
-        ReliefNet net = Nets.row(stations, 9, 50);
-        net.setRules(48, tries, Draws.around(50, draws));
-        net.send(0, stations - 1, 0);
-        return net;
-    }
-
     private static void messages(Sentences doc) {
         doc.section("MESSAGES AND COPIES");
         doc.says("There are at most 24 messages, numbered from 0.", () -> {
@@ -39,7 +31,8 @@ final class MessageSentences {
             }
             Check.equal(24, net.count(2));
             for (int message = 0; message < 24; message++) {
-                Check.row(java.util.Arrays.copyOf(Nets.message(net, message), 3), message % 2, 1 - message % 2, message % 4);
+                int[] numbers = java.util.Arrays.copyOf(Nets.message(net, message), 3);
+                Check.row(numbers, message % 2, 1 - message % 2, message % 4);
             }
             Refused.state(Nets::full, any -> any.send(0, 1, 0));
             Refused.index(Nets::full, any -> any.message(24, 0));
@@ -64,7 +57,7 @@ final class MessageSentences {
         });
         doc.says("Each station has at most one copy of a message, which has a state:", () -> {
             // The same frame is got three times.
-            ReliefNet net = drawn(3, 9, "+-+-+-");
+            ReliefNet net = Nets.drawn(3, 9, "+-+-+-");
             net.setLink(1, 0, 20);
             net.run(1);
             int[] first = Nets.copy(net, 0, 1);
@@ -85,7 +78,7 @@ final class MessageSentences {
             Check.equal(0, net.copy(0, 2, 0));
         });
         doc.says("; 1 it waits", () -> {
-            ReliefNet net = drawn(2, 2, "-");
+            ReliefNet net = Nets.drawn(2, 2, "-");
             Check.equal(1, net.copy(0, 0, 0));
             net.run(1);
             Check.equal(1, net.copy(0, 0, 0));
@@ -99,10 +92,10 @@ final class MessageSentences {
             Check.row(new int[] {net.copy(0, 0, 0), net.copy(0, 1, 0)}, 2, 2);
         });
         doc.says("; 3 it was stopped", () -> {
-            ReliefNet net = drawn(2, 1, "-");
+            ReliefNet net = Nets.drawn(2, 1, "-");
             net.run(1);
             Check.equal(3, net.copy(0, 0, 0));
-            ReliefNet back = drawn(2, 9, "-");
+            ReliefNet back = Nets.drawn(2, 9, "-");
             back.takeBack(0);
             Check.equal(3, back.copy(0, 0, 0));
             // A stopped copy does not expire.
@@ -131,7 +124,7 @@ final class MessageSentences {
 
     private static void copies(Sentences doc) {
         doc.says("A copy has tries (0 at first)", () -> {
-            ReliefNet net = drawn(3, 9, "--+-");
+            ReliefNet net = Nets.drawn(3, 9, "--+-");
             Check.equal(0, net.copy(0, 0, 1));
             net.run(2);
             Check.equal(2, net.copy(0, 0, 1));
@@ -147,7 +140,8 @@ final class MessageSentences {
             net.send(1, 0, 0);
             Check.row(new int[] {net.copy(0, 1, 2), net.copy(1, 1, 2)}, 1, 72);
         });
-        doc.says(", and a path: the stations that it came by, from the first one of the message on, its own station last.",
+        doc.says(", and a path: the stations that it came by, from the first one of the message on, its own station "
+                + "last.",
                 () -> {
             ReliefNet net = Nets.row(8, 9, 100);
             net.send(7, 0, 0);
@@ -159,7 +153,8 @@ final class MessageSentences {
                 Check.equal(station, net.path(0, station, 7 - station));
             }
         });
-        doc.says("A new message has a copy that waits at its first station, from the time at which it is born on.", () -> {
+        doc.says("A new message has a copy that waits at its first station, from the time at which it is born "
+                + "on.", () -> {
             ReliefNet net = Nets.row(2, 9, 100);
             net.run(30);
             net.send(1, 0, 0);
@@ -179,12 +174,12 @@ final class MessageSentences {
             net.run(1);
             Check.equal(0, net.message(0, 4));
             // One copy is stopped, another one waits.
-            ReliefNet stopped = drawn(3, 1, "+-");
+            ReliefNet stopped = Nets.drawn(3, 1, "+-");
             stopped.run(1);
             Check.row(new int[] {stopped.copy(0, 0, 0), stopped.copy(0, 1, 0), stopped.message(0, 4)}, 3, 1, 0);
         });
         doc.says("; it is delivered (1) if a copy is delivered", () -> {
-            ReliefNet net = drawn(2, 9, "+-");
+            ReliefNet net = Nets.drawn(2, 9, "+-");
             net.run(1);
             Check.row(new int[] {net.copy(0, 0, 0), net.message(0, 4)}, 1, 1);
             // Also if the other copies have ended.
@@ -192,7 +187,7 @@ final class MessageSentences {
             Check.row(new int[] {net.copy(0, 0, 0), net.message(0, 4)}, 3, 1);
         });
         doc.says("; otherwise it has ended (2).", () -> {
-            ReliefNet net = drawn(3, 1, "+--");
+            ReliefNet net = Nets.drawn(3, 1, "+--");
             net.run(2);
             Check.row(new int[] {net.copy(0, 0, 0), net.copy(0, 1, 0), net.message(0, 4)}, 3, 3, 2);
             ReliefNet back = Nets.row(3, 9, 100);
@@ -202,7 +197,7 @@ final class MessageSentences {
             Check.row(new int[] {back.copy(0, 0, 0), back.copy(0, 1, 0), back.message(0, 4)}, 2, 3, 2);
         });
         doc.says("(Copies of a delivered message that wait are still sent.)", () -> {
-            ReliefNet net = drawn(2, 9, "+-+-++");
+            ReliefNet net = Nets.drawn(2, 9, "+-+-++");
             net.run(1);
             Check.equal("0 ", Nets.sent(net, 0));
             Check.equal(1, net.copy(0, 0, 4));
@@ -313,16 +308,16 @@ final class MessageSentences {
     private static void takeBack(Sentences doc) {
         doc.section("Promise 20");
         doc.says("Takes all copies of a message back that wait: they are stopped (by ascending stations).", () -> {
-            ReliefNet net = drawn(4, 9, "+-+-+-");
+            ReliefNet net = Nets.drawn(4, 9, "+-+-+-");
             net.run(1);
             net.setLink(0, 0, 23);
             net.setLink(0, 1, 23);
             net.setRules(48, 9, Draws.around(50, "+-"));
             net.run(1);
             Check.equal(3, net.takeBack(0));
-            Check.row(new int[] {net.copy(0, 0, 0), net.copy(0, 1, 0), net.copy(0, 2, 0), net.copy(0, 3, 0)}, 3, 3, 3, 0);
             int events = net.count(13);
             for (int station = 0; station < 3; station++) {
+                Check.equal(3, net.copy(0, station, 0));
                 Check.row(Nets.event(net, events - 3 + station), 2, 8, 0, station, NONE);
             }
             // Other messages are not touched.
@@ -348,7 +343,7 @@ final class MessageSentences {
             net.send(0, 1, 0);
             net.run(1);
             Check.equal(0, net.takeBack(1));
-            ReliefNet twice = drawn(3, 9, "+-");
+            ReliefNet twice = Nets.drawn(3, 9, "+-");
             twice.run(1);
             Check.equal(2, twice.takeBack(0));
         });
@@ -366,7 +361,8 @@ final class MessageSentences {
             Check.row(java.util.Arrays.copyOf(Nets.message(Nets.full(), 23), 4), 7, 2, 3, 0);
             Refused.indexBeyond(Nets::full, 0, 23, (net, message) -> net.message(message, 0));
         });
-        doc.says("- `what`: 0: first station; 1: station to which it goes; 2: priority; 3: the time at which it was born",
+        doc.says("- `what`: 0: first station; 1: station to which it goes; 2: priority; 3: the time at which it was "
+                + "born",
                 () -> {
             ReliefNet net = Nets.eightStations();
             net.send(0, 7, 0);
@@ -380,9 +376,11 @@ final class MessageSentences {
             net.send(0, 1, 0);
             net.send(0, 1, 0);
             net.takeBack(1);
-            Check.row(new int[] {net.message(0, 4), net.message(1, 4)}, 0, 2);
+            net.send(0, 1, 0);
+            Check.row(new int[] {net.message(0, 4), net.message(1, 4), net.message(2, 4)}, 0, 2, 0);
+            net.setStation(0, 2, 1);
             net.run(1);
-            Check.row(new int[] {net.message(0, 4), net.message(1, 4)}, 1, 2);
+            Check.row(new int[] {net.message(0, 4), net.message(1, 4), net.message(2, 4)}, 1, 2, 0);
         });
         doc.says("; 5: the time from which on it is delivered (NONE if it is not)", () -> {
             ReliefNet net = Nets.row(2, 9, 100);
@@ -408,19 +406,23 @@ final class MessageSentences {
             }
         });
         doc.says("; 7: frames that were sent of it; 8: duplicates of it; 9: copies that wait", () -> {
-            ReliefNet net = drawn(2, 9, "-+-+-++");
+            ReliefNet net = Nets.drawn(2, 9, "-+-+-++");
+            // The messages beside it do not count: one is taken back, one can't be sent.
+            net.addStation(0, 23, 1);
             net.send(1, 0, 0);
+            net.send(1, 2, 0);
             net.takeBack(1);
             int[][] due = {{0, 0, 1}, {1, 0, 1}, {2, 0, 1}, {3, 1, 1}, {4, 2, 0}, {4, 2, 0}};
             for (int[] numbers : due) {
                 Check.row(new int[] {net.message(0, 7), net.message(0, 8), net.message(0, 9)}, numbers);
                 Check.row(new int[] {net.message(1, 7), net.message(1, 8), net.message(1, 9)}, 0, 0, 0);
+                Check.row(new int[] {net.message(2, 7), net.message(2, 8), net.message(2, 9)}, 0, 0, 1);
                 net.run(1);
             }
         });
-        doc.says("; 10: the station of its noted end (NONE without one); 11: the station to which that copy was sent at last "
-                + "(NONE likewise)", () -> {
-            ReliefNet net = drawn(2, 2, "--");
+        doc.says("; 10: the station of its noted end (NONE without one); 11: the station to which that copy was sent "
+                + "at last (NONE likewise)", () -> {
+            ReliefNet net = Nets.drawn(2, 2, "--");
             Check.row(new int[] {net.message(0, 10), net.message(0, 11)}, NONE, NONE);
             net.run(1);
             Check.row(new int[] {net.message(0, 10), net.message(0, 11)}, NONE, NONE);
@@ -435,7 +437,8 @@ final class MessageSentences {
             back.takeBack(0);
             Check.row(new int[] {back.message(0, 10), back.message(0, 11)}, 1, NONE);
         });
-        doc.says("Returns that number.", () -> Check.row(Nets.message(Nets.full(), 23), 7, 2, 3, 0, 0, NONE, NONE, 0, 0, 1,
+        doc.says("Returns that number.",
+                () -> Check.row(Nets.message(Nets.full(), 23), 7, 2, 3, 0, 0, NONE, NONE, 0, 0, 1,
                 NONE, NONE));
         doc.says("Throws `IndexOutOfBoundsException` if there is no such message", () -> {
             Refused.index(ReliefNet::new, net -> net.message(0, 0));
@@ -462,7 +465,7 @@ final class MessageSentences {
             Refused.indexBeyond(Nets::history, 0, 4, (net, station) -> net.copy(0, station, 0));
         });
         doc.says("- `what`: 0: state; 1: tries; 2: the time from which on it is there; 3: stations of its path", () -> {
-            ReliefNet net = drawn(2, 9, "--------++");
+            ReliefNet net = Nets.drawn(2, 9, "--------++");
             net.run(8);
             Check.row(Nets.copy(net, 0, 0), 1, 8, 0, 1, 1);
             net.run(1);

@@ -91,9 +91,17 @@ final class Nets {
         return net;
     }
 
+    /** Stations in a row, one message from the first to the last, and draws that go as told for QUALITY 50. */
+    static ReliefNet drawn(int stations, int tries, String draws) {
+        ReliefNet net = row(stations, 9, 50);
+        net.setRules(48, tries, Draws.around(50, draws));
+        net.send(0, stations - 1, 0);
+        return net;
+    }
+
     static String output(ReliefNet net) {
         StringBuilder all = new StringBuilder();
-        for (int sign = net.output(0); sign != ReliefNet.NONE; sign = net.output(all.length())) {
+        for (int sign = net.output(0); sign != ReliefNet.NONE && all.length() < 100; sign = net.output(all.length())) {
             all.append((char) sign);
         }
         return all.toString();
@@ -102,10 +110,12 @@ final class Nets {
     /** What a station would send now, each message with a space behind it. */
     static String sent(ReliefNet net, int station) {
         StringBuilder all = new StringBuilder();
-        int index = 0;
-        for (int message = net.sends(station, 0); message != ReliefNet.NONE; message = net.sends(station, index)) {
+        for (int index = 0; index < 20; index++) {
+            int message = net.sends(station, index);
+            if (message == ReliefNet.NONE) {
+                break;
+            }
             all.append(message).append(' ');
-            index++;
         }
         return all.toString();
     }

@@ -339,7 +339,8 @@ public final class ReferenceNet {
     private World world = new World();
     private final World[] saved = new World[2];
     private String text = "";
-    private String output = "";
+    /** Whoever only looks at all numbers puts it back afterwards. */
+    String output = "";
     private int errorCode = 0;
     private int errorPosition = -1;
 

@@ -5,16 +5,23 @@ import java.util.Comparator;
 import java.util.List;
 import java.util.Random;
 
-/** Random runs of at most 512 calls on ReliefNet and on ReferenceNet, which must answer alike; the seeds are fixed. */
+/**
+ * Random runs of at most 512 calls on ReliefNet and on ReferenceNet, which must answer alike; the seeds are fixed.
+ * To look at all numbers takes more calls than that, so each part of a look is taken at a new net, on which all calls
+ * of the run are made again.
+ */
 final class ReferenceTest {
     private static final int RUNS = 60;
     private static final int CALLS = 512;
 
+    private record Call(String name, Object[] arguments) {
+    }
+
     private final Random random;
-    private final ReliefNet net = new ReliefNet();
-    private final ReferenceNet reference = new ReferenceNet();
     private final List<Method> methods = new ArrayList<>();
-    private int calls = 0;
+    private ReliefNet net = new ReliefNet();
+    private ReferenceNet reference = new ReferenceNet();
+    private List<Call> history = new ArrayList<>();
 
     private ReferenceTest(long seed) {
         random = new Random(seed);
@@ -29,7 +36,7 @@ final class ReferenceTest {
     static void run(Check check) {
         for (int seed = 0; seed < RUNS; seed++) {
             int run = seed;
-            check.test("random run of calls " + run, () -> new ReferenceTest(run).calls(CALLS));
+            check.test("random run of calls " + run, () -> new ReferenceTest(run).calls());
         }
         for (int seed = 0; seed < RUNS; seed++) {
             int run = seed;
@@ -42,10 +49,16 @@ final class ReferenceTest {
     }
 
     /** Random calls, mostly with arguments that fit. */
-    private void calls(int many) throws Exception {
+    private void calls() throws Exception {
         boolean wide = random.nextInt(3) == 0;
         build(wide);
-        while (calls < many) {
+        randomCalls(CALLS * 2 / 3);
+        look();
+        randomCalls(CALLS);
+    }
+
+    private void randomCalls(int many) throws Exception {
+        while (history.size() < many) {
             Method method = methods.get(random.nextInt(methods.size()));
             String name = method.getName();
             if (name.equals("load") && random.nextInt(8) != 0 || name.equals("truncateText") && random.nextBoolean()) {
@@ -57,7 +70,6 @@ final class ReferenceTest {
             }
             same(name, arguments);
         }
-        allNumbers();
     }
 
     private int argument(String name, int index) {
@@ -86,8 +98,8 @@ final class ReferenceTest {
         if (event && index == 0) {
             return random.nextInt(41);
         }
-        if (message && net.count(2) > 0) {
-            return random.nextInt(net.count(2) + 1);
+        if (message && reference.count(2) > 0) {
+            return random.nextInt(reference.count(2) + 1);
         }
         return random.nextInt(index == 0 ? 9 : random.nextBoolean() ? 4 : 12);
     }
@@ -118,28 +130,31 @@ final class ReferenceTest {
 
     private void traffic() throws Exception {
         build(random.nextBoolean());
-        int stations = net.count(0);
-        while (calls < 200) {
+        int stations = reference.count(0);
+        for (int step = 0; step < 20; step++) {
             int kind = random.nextInt(10);
             if (kind < 4) {
                 same("send", random.nextInt(stations), random.nextInt(stations), random.nextInt(4));
-            } else if (kind == 4 && net.count(1) > 0) {
-                same("setLink", random.nextInt(net.count(1)), 2, random.nextInt(101));
+            } else if (kind == 4 && reference.count(1) > 0) {
+                same("setLink", random.nextInt(reference.count(1)), 2, random.nextInt(101));
             } else if (kind == 5) {
                 same("hoursTo", 1 + random.nextInt(12));
-            } else if (kind == 6 && net.count(2) > 0) {
-                same("stateAfter", random.nextInt(net.count(2)), 1 + random.nextInt(72));
+            } else if (kind == 6 && reference.count(2) > 0) {
+                same("stateAfter", random.nextInt(reference.count(2)), 1 + random.nextInt(72));
             } else {
                 same("run", 1 + random.nextInt(5));
-                allNumbers();
-                calls -= 1;
+                look();
             }
-            calls += 10;
         }
     }
 
     private void texts() throws Exception {
         for (int text = 0; text < 60; text++) {
+            if (text % 2 == 0) {
+                net = new ReliefNet();
+                reference = new ReferenceNet();
+                history = new ArrayList<>();
+            }
             String setup = setup();
             if (random.nextInt(3) != 0) {
                 setup = spoiled(setup);
@@ -156,7 +171,7 @@ final class ReferenceTest {
             same("load");
             same("errorCode");
             same("errorPosition");
-            allNumbers();
+            look();
         }
     }
 
@@ -194,7 +209,8 @@ final class ReferenceTest {
 
     private String spoiled(String setup) {
         StringBuilder all = new StringBuilder(setup);
-        String[] odd = {" ", ";", "5", "99", "1234567890123", "life", "x", "#", "\t", "\n", "-", "link", "\u00e9", "\0"};
+        String[] odd = {" ", ";", "5", "99", "1234567890123", "life", "x", "#", "\t", "\n", "-", "link", "\u00e9",
+            "\0"};
         for (int times = 1 + random.nextInt(2); times > 0 && all.length() > 0; times--) {
             int at = random.nextInt(all.length());
             switch (random.nextInt(4)) {
@@ -207,73 +223,93 @@ final class ReferenceTest {
         return all.toString();
     }
 
-    /** Everything that the face tells; these calls are not counted, since they change nothing. */
-    private void allNumbers() throws Exception {
-        int before = calls;
-        for (int what = 0; what <= 13; what++) {
-            same("count", what);
+    /** Everything that the face tells, of new nets that have come as far as this one. */
+    private void look() throws Exception {
+        String output = reference.output;
+        List<Call> part = new ArrayList<>();
+        for (List<Call> group : groups()) {
+            if (history.size() + part.size() + group.size() > CALLS) {
+                ask(part);
+                part.clear();
+            }
+            part.addAll(group);
         }
-        for (int station = 0; station < net.count(0); station++) {
-            for (int what = 0; what <= 9; what++) {
-                same("station", station, what);
-            }
-            for (int index = 0; index < 10; index++) {
-                same("sends", station, index);
-            }
-            for (int other = 0; other < net.count(0); other++) {
-                for (int what = 0; what <= 2; what++) {
-                    same("way", station, other, net.count(3), what);
-                }
-            }
+        ask(part);
+        reference.output = output;
+    }
+
+    private void ask(List<Call> questions) throws Exception {
+        ReliefNet again = new ReliefNet();
+        for (Call call : history) {
+            answer(again, call);
         }
-        for (int link = 0; link < net.count(1); link++) {
-            for (int what = 0; what <= 8; what++) {
-                same("link", link, what);
-            }
+        for (Call question : questions) {
+            compare(question, answer(reference, question), answer(again, question));
         }
-        for (int message = 0; message < net.count(2); message++) {
-            for (int what = 0; what <= 11; what++) {
-                same("message", message, what);
-            }
-            for (int station = 0; station < net.count(0); station++) {
-                for (int what = 0; what <= 4; what++) {
-                    same("copy", message, station, what);
-                }
-                for (int index = 0; index < net.copy(message, station, 3); index++) {
-                    same("path", message, station, index);
-                }
-            }
-        }
-        for (int event = 0; event < net.count(13); event++) {
-            same("write", event);
-            for (int index = 0; index < 24; index++) {
-                same("output", index);
-            }
-            for (int what = 0; what <= 4; what++) {
-                same("event", event, what);
+    }
+
+    /** Calls that belong together, since an output is told only behind its write. */
+    private List<List<Call>> groups() {
+        List<List<Call>> all = new ArrayList<>();
+        all.add(numbers("count", 14));
+        for (int station = 0; station < reference.count(0); station++) {
+            all.add(numbers("station", 10, station));
+            all.add(numbers("sends", 10, station));
+            for (int other = 0; other < reference.count(0); other++) {
+                all.add(numbers("way", 3, station, other, reference.count(3)));
             }
         }
-        same("reachable");
-        same("keyStation");
-        same("meanHours");
-        same("lossRate");
-        calls = before;
+        for (int link = 0; link < reference.count(1); link++) {
+            all.add(numbers("link", 9, link));
+        }
+        for (int message = 0; message < reference.count(2); message++) {
+            all.add(numbers("message", 12, message));
+            for (int station = 0; station < reference.count(0); station++) {
+                all.add(numbers("copy", 5, message, station));
+                all.add(numbers("path", Math.max(0, reference.copy(message, station, 3)), message, station));
+            }
+        }
+        for (int event = 0; event < reference.count(13); event++) {
+            List<Call> written = numbers("output", 24);
+            written.add(0, new Call("write", new Object[] {event}));
+            all.add(written);
+            all.add(numbers("event", 5, event));
+        }
+        for (String name : new String[] {"reachable", "keyStation", "meanHours", "lossRate"}) {
+            all.add(List.of(new Call(name, new Object[0])));
+        }
+        return all;
+    }
+
+    /** A call for each last argument below a bound. */
+    private static List<Call> numbers(String name, int bound, Object... first) {
+        List<Call> all = new ArrayList<>();
+        for (int last = 0; last < bound; last++) {
+            Object[] arguments = java.util.Arrays.copyOf(first, first.length + 1);
+            arguments[first.length] = last;
+            all.add(new Call(name, arguments));
+        }
+        return all;
     }
 
     private void same(String name, Object... arguments) throws Exception {
-        calls++;
-        String due = answer(reference, name, arguments);
-        String got = answer(net, name, arguments);
+        Call call = new Call(name, arguments);
+        history.add(call);
+        compare(call, answer(reference, call), answer(net, call));
+    }
+
+    private void compare(Call call, String due, String got) {
         if (!due.equals(got)) {
-            throw new AssertionError("call " + calls + " " + name + List.of(arguments) + ": due " + due + ", got " + got);
+            throw new AssertionError("behind " + history.size() + " calls " + call.name()
+                    + List.of(call.arguments()) + ": due " + due + ", got " + got);
         }
     }
 
-    private static String answer(Object object, String name, Object... arguments) throws Exception {
-        Class<?>[] types = new Class<?>[arguments.length];
+    private static String answer(Object object, Call call) throws Exception {
+        Class<?>[] types = new Class<?>[call.arguments().length];
         java.util.Arrays.fill(types, int.class);
         try {
-            return String.valueOf(object.getClass().getMethod(name, types).invoke(object, arguments));
+            return String.valueOf(object.getClass().getMethod(call.name(), types).invoke(object, call.arguments()));
         } catch (InvocationTargetException thrown) {
             return "throws " + thrown.getCause().getClass().getName();
         }

@@ -167,8 +167,8 @@ final class StationSentences {
             Check.equal(1, frame(99, 98, 98).message(0, 5));
             Check.equal(ReliefNet.NONE, frame(99, 99, 0).message(0, 5));
         });
-        doc.says("It is open in an hour if the hour of the day is one of its hours, and both of its stations are on the "
-                + "air.", () -> {
+        doc.says("It is open in an hour if the hour of the day is one of its hours, and both of its stations are on "
+                + "the air.", () -> {
             for (int closed = 0; closed < 8; closed++) {
                 ReliefNet net = Nets.row(2, 1, 100);
                 net.send(0, 1, 0);
@@ -571,7 +571,8 @@ final class StationSentences {
                 net.run(1);
             }
         });
-        doc.says("; 6: frames that were sent by it; 7: frames that were lost; 8: acknowledgements that were lost", () -> {
+        doc.says("; 6: frames that were sent by it; 7: frames that were lost; 8: acknowledgements that were "
+                + "lost", () -> {
             ReliefNet net = Nets.row(3, 9, 50);
             net.setRules(48, 9, Draws.around(50, "-+---++"));
             net.send(0, 1, 0);

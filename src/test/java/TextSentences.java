@@ -134,6 +134,7 @@ final class TextSentences {
             Check.row(java.util.Arrays.copyOf(Nets.link(net, 15), 5), 3, 7, 0, 0, 0);
             net = right(TWO + "link 1 0 23 23 100;", 3);
             Check.row(java.util.Arrays.copyOf(Nets.link(net, 0), 5), 1, 0, 23, 23, 100);
+            Check.row(Nets.way(net, 0, 1, 0), 24, 1, -1);
             needsNumbers(TWO, "link 0", " 1", 5);
         });
         doc.says("| \"message\" ONE OTHER PRIORITY", () -> {
@@ -196,8 +197,8 @@ final class TextSentences {
     }
 
     private static void errors(Sentences doc) {
-        doc.says("Errors in a text: the parser reads the tokens from the first one on and stops at the first token that "
-                + "is wrong.", () -> {
+        doc.says("Errors in a text: the parser reads the tokens from the first one on and stops at the first token "
+                + "that is wrong.", () -> {
             wrong("life 0;tries 0;#", 2, 5);
             wrong("# life 0;", 1, 0);
             wrong("life x 0;", 1, 5);
@@ -220,7 +221,14 @@ final class TextSentences {
             wrong("seed" + "0".repeat(696), 1, 700);
         });
         doc.says("The error code, of several at one token the least, is 1 if the token is not allowed there", () -> {
-            wrong("stations 0 0 1;", 1, 0);
+            for (String word : new String[] {"station", "link", "message", "life", "tries", "seed"}) {
+                // Each letter counts, none may be missing, and none may be more.
+                for (int letter = 0; letter < word.length(); letter++) {
+                    wrong(" " + word.substring(0, letter) + "x" + word.substring(letter + 1) + " 0", 1, 1);
+                    wrong(" " + word.substring(0, letter) + word.substring(letter + 1) + " 0", 1, 1);
+                }
+                wrong(" " + word + "s 0", 1, 1);
+            }
             wrong("5;", 1, 0);
             wrong("life life;", 1, 5);
             wrong("life ;", 1, 5);
@@ -396,6 +404,14 @@ final class TextSentences {
             Nets.append(net, "4;");
             Check.equal(1, net.load());
             Check.equal(14, net.count(4));
+            // What was cut off is not read.
+            for (String text : new String[] {"life 12;", "links;", "life 1 ;", "life 1;;"}) {
+                ReliefNet cut = appended(text);
+                int length = text.startsWith("links") ? 4 : 6;
+                cut.truncateText(length);
+                Check.equal(ReliefNet.NONE, cut.load());
+                Check.row(new int[] {cut.errorCode(), cut.errorPosition()}, 1, length);
+            }
         });
         doc.says("- `length`: the new length, 0 to the present length", () -> {
             Check.equal(0, new ReliefNet().truncateText(0));
@@ -431,15 +447,36 @@ final class TextSentences {
         doc.says("Reads the text as a setup, which replaces everything except the output and saved states;", () -> {
             String text = "station 1 2 3;station 4 5 6;link 1 0 7 8 9;message 0 1 2;life 3;tries 4;seed 5;";
             Check.equal(Picture.ofSaved(() -> Nets.loaded(text)), Picture.ofSaved(() -> loadedOver(text)));
+            ReliefNet net = loadedOver(text);
+            Check.row(Nets.counts(net), 2, 1, 1, 0, 3, 4, 5, 1, 0, 0, 1, 0, 0, 1);
+            Check.equal(1, net.station(0, 9));
+            Check.row(Nets.way(net, 0, 1, 0), -1, -1, -1);
+            Check.row(Nets.way(loadedOver(TWO + "link 0 1 4 5 6;"), 0, 1, 3), 5, 1, -1);
             Check.equal(Nets.output(Nets.history()), Nets.output(loadedOver(text)));
-            Check.equal(Picture.ofSaved(() -> restored(Nets.history())), Picture.ofSaved(() -> restored(loadedOver(text))));
-            Refused.state(() -> loadedOver(text), net -> net.restore(1));
+            Check.equal(Picture.ofSaved(() -> restored(Nets.history())),
+                    Picture.ofSaved(() -> restored(loadedOver(text))));
+            Refused.state(() -> loadedOver(text), any -> any.restore(1));
         });
         doc.says("what it does not set is as at first.", () -> {
             Check.equal(Picture.ofSaved(ReliefNet::new), Picture.ofSaved(() -> loadedOver("")));
             Check.row(Nets.counts(loadedOver("life 7;")), 0, 0, 0, 0, 7, 3, 1, 0, 0, 0, 0, 0, 0, 0);
             Check.row(Nets.counts(loadedOver("tries 7;")), 0, 0, 0, 0, 48, 7, 1, 0, 0, 0, 0, 0, 0, 0);
             Check.row(Nets.counts(loadedOver("seed 7;")), 0, 0, 0, 0, 48, 3, 7, 0, 0, 0, 0, 0, 0, 0);
+            // A prediction, or a text with an error, leaves nothing behind for the next text.
+            String text = STATION.repeat(5) + "link 0 1 0 23 60;message 0 1 0;message 1 2 0;message 2 3 0;";
+            String due = Picture.ofSaved(() -> Nets.loaded(text));
+            Check.equal(due, Picture.ofSaved(() -> {
+                ReliefNet net = cut(Nets.history());
+                net.stateAfter(0, 30);
+                Nets.load(net, text);
+                return net;
+            }));
+            Check.equal(due, Picture.ofSaved(() -> {
+                ReliefNet net = new ReliefNet();
+                Nets.load(net, STATION + STATION + "link 1 0 5 5 5;message 1 0 3;life 9;tries 9;seed 9;#");
+                Nets.load(net, text);
+                return net;
+            }));
         });
         doc.says("The text buffer is empty afterwards, also if there is an error.", () -> {
             for (String text : new String[] {"", "life 7;", "life", " ".repeat(700), "#".repeat(700)}) {

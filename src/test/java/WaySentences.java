@@ -42,14 +42,37 @@ final class WaySentences {
             Check.row(Nets.way(net, 0, 1, 5), 7, 1, NONE);
         });
         doc.says(", and is one station further an hour later", () -> {
-            ReliefNet net = Nets.row(8, 1, 0);
-            Check.row(Nets.way(net, 0, 1, 0), 1, 1, 1);
-            Check.row(Nets.way(net, 0, 7, 0), 7, 7, 1);
+            // Rows of all eight stations in different orders: each way takes as many hours as links.
+            for (int step : new int[] {1, 3, 5, 7}) {
+                ReliefNet net = Nets.eightStations();
+                int[] row = new int[8];
+                for (int place = 0; place < 8; place++) {
+                    row[place] = (place * step + 4) % 8;
+                }
+                for (int place = 0; place < 7; place++) {
+                    net.addLink(row[place], row[place + 1], 0, 23, 0);
+                }
+                for (int from = 0; from < 8; from++) {
+                    for (int to = 0; to < 8; to++) {
+                        int links = Math.abs(from - to);
+                        if (links > 0) {
+                            int next = row[from < to ? from + 1 : from - 1];
+                            Check.row(Nets.way(net, row[from], row[to], 50), 50 + links, links, next);
+                        }
+                    }
+                }
+            }
             // Two links that are open in one and the same hour take two days.
             ReliefNet same = net(3, link(0, 1, 5, 5), link(1, 2, 5, 5));
             Check.row(Nets.way(same, 0, 2, 5), NONE, NONE, NONE);
             same.setLink(1, 1, 6);
             Check.row(Nets.way(same, 0, 2, 5), 7, 2, 1);
+            // As short as by 3 and 4 it would be by 1 and 2, if one could leave 1 in the hour in which one comes.
+            ReliefNet gone = net(6, link(0, 1, 0, 0), link(1, 2, 0, 0), link(2, 5, 5, 5), link(0, 3, 2, 2),
+                    link(3, 4, 3, 3), link(4, 5, 5, 5));
+            Check.row(Nets.way(gone, 0, 5, 0), 6, 3, NONE);
+            gone.setLink(1, 1, 1);
+            Check.row(Nets.way(gone, 0, 5, 0), 6, 3, 1);
         });
         doc.says("; it can wait at any station.", () -> {
             // At the first one, on the way, as long as 23 hours.
@@ -119,18 +142,21 @@ final class WaySentences {
             Check.equal(1, net.copy(0, 2, 4));
         });
         doc.says(", and do not come to stations of its path.", () -> {
-            // At 1 only the way back over 0 would lead on.
-            ReliefNet net = Nets.row(3, 9, 100);
-            net.send(0, 2, 0);
-            net.run(1);
-            net.addLink(0, 2, 0, 23, 100);
-            net.setLink(1, 0, 20);
-            net.setLink(1, 1, 20);
-            Check.row(Nets.way(net, 1, 2, 1), 3, 2, 0);
-            Check.equal(NONE, net.copy(0, 1, 4));
-            Check.equal("", Nets.sent(net, 1));
-            net.setLink(1, 0, 0);
-            Check.equal(2, net.copy(0, 1, 4));
+            // At the second station only the way back over the first one would lead on now.
+            for (int one = 0; one < 8; one++) {
+                int second = (one + 3) % 8;
+                int last = (one + 6) % 8;
+                ReliefNet net = net(8, link(one, second, 0, 23), link(second, last, 0, 23));
+                net.send(one, last, 0);
+                net.run(1);
+                net.addLink(one, last, 0, 23, 100);
+                net.setLink(1, 0, 20);
+                Check.row(Nets.way(net, second, last, 1), 3, 2, one);
+                Check.equal(NONE, net.copy(0, second, 4));
+                Check.equal("", Nets.sent(net, second));
+                net.setLink(1, 0, 1);
+                Check.equal(last, net.copy(0, second, 4));
+            }
             // In a row of eight the copies have paths of up to seven stations, and still go on.
             ReliefNet row = Nets.row(8, 9, 100);
             row.send(0, 7, 0);
@@ -140,8 +166,8 @@ final class WaySentences {
                 row.run(1);
             }
         });
-        doc.says("The NEXT station of a copy that waits is the lowest station to which a best way of the copy goes in the "
-                + "hour that begins at the present time", () -> {
+        doc.says("The NEXT station of a copy that waits is the lowest station to which a best way of the copy goes in "
+                + "the hour that begins at the present time", () -> {
             // From 7 to 0 by any of six; the lowest of those that are open counts.
             ReliefNet net = Nets.eightStations();
             for (int between = 1; between < 7; between++) {
@@ -169,6 +195,18 @@ final class WaySentences {
             net.setLink(1, 0, 4);
             net.setLink(1, 1, 4);
             Check.equal(NONE, net.copy(0, 0, 4));
+            // Likewise on the way, at any station.
+            for (int one = 0; one < 8; one++) {
+                int here = (one + 3) % 8;
+                ReliefNet later = net(8, link(one, here, 0, 0), link(here, (one + 6) % 8, 4, 4),
+                        link(here, (one + 1) % 8, 1, 1), link((one + 1) % 8, (one + 6) % 8, 4, 4));
+                later.send(one, (one + 6) % 8, 0);
+                later.run(1);
+                Check.row(Nets.copy(later, 0, here), 1, 0, 1, 2, NONE);
+                later.setLink(1, 0, 5);
+                later.setLink(1, 1, 5);
+                Check.equal((one + 1) % 8, later.copy(0, here, 4));
+            }
             // As early with as many: one of both ways goes now.
             ReliefNet two = net(4, link(0, 1, 0, 0), link(1, 3, 5, 5), link(0, 2, 3, 3), link(2, 3, 5, 5));
             two.send(0, 3, 0);
@@ -208,8 +246,8 @@ final class WaySentences {
             Check.row(Nets.way(Nets.row(8, 1, 1), 0, 7, 93), 100, 7, 1);
             Check.row(Nets.way(Nets.row(8, 1, 1), 3, 4, 93), 94, 1, 4);
         });
-        doc.says("; 2: the lowest station to which a best way goes in the hour that begins at that time (NONE if none uses "
-                + "a link in it)", () -> {
+        doc.says("; 2: the lowest station to which a best way goes in the hour that begins at that time (NONE if none "
+                + "uses a link in it)", () -> {
             ReliefNet net = net(4, link(3, 2, 0, 0), link(3, 1, 0, 0), link(2, 0, 5, 5), link(1, 0, 5, 5));
             Check.equal(1, net.way(3, 0, 0, 2));
             Check.equal(NONE, net.way(3, 0, 23, 2));
@@ -241,7 +279,8 @@ final class WaySentences {
 
     private static void pairs(Sentences doc) {
         doc.section("Promise 16");
-        doc.says("Returns the number of ordered pairs of different stations between which there is a way that begins now.",
+        doc.says("Returns the number of ordered pairs of different stations between which there is a way that begins "
+                + "now.",
                 () -> {
             Check.equal(0, new ReliefNet().reachable());
             Check.equal(0, net(1).reachable());
@@ -262,8 +301,8 @@ final class WaySentences {
             Check.equal(4, net.reachable());
         });
         doc.section("Promise 17");
-        doc.says("Finds the station without which most pairs would not be reachable: without a station, ways do not come "
-                + "to it", () -> {
+        doc.says("Finds the station without which most pairs would not be reachable: without a station, ways do not "
+                + "come to it", () -> {
             // All ways from 0, 1, 2 to 4, 5, 6 go over 3.
             ReliefNet net = net(7, link(0, 3, 0, 23), link(1, 3, 0, 23), link(2, 3, 0, 23), link(4, 3, 0, 23),
                     link(5, 3, 0, 23), link(6, 3, 0, 23));
