@@ -175,7 +175,7 @@ final class HourSentences {
                 + "between both:", () -> {
             for (int rate : new int[] {1, 3, 4, 9}) {
                 // One less than RATE, as many, and one more; all are lost, and none is sent twice in an hour.
-                for (int many = rate - 1; many <= rate + 1; many++) {
+                for (int many : new int[] {0, 1, rate - 1, rate, rate + 1}) {
                     ReliefNet net = Nets.row(2, rate, 0);
                     for (int message = 0; message < many; message++) {
                         net.send(0, 1, 0);
@@ -489,8 +489,8 @@ final class HourSentences {
         doc.says("Throws `IndexOutOfBoundsException` if there is no such message", () -> {
             Refused.index(ReliefNet::new, net -> net.stateAfter(0, 1));
             Refused.index(Nets::eightStations, net -> net.stateAfter(0, 1));
-            Refused.index(Nets::full, net -> net.stateAfter(24, 1), net -> net.stateAfter(24, 0),
-                    net -> net.stateAfter(-1, 1), net -> net.stateAfter(-1, 73));
+            Refused.indexBeyond(Nets::full, 0, 23, (net, message) -> net.stateAfter(message, 1));
+            Refused.index(Nets::full, net -> net.stateAfter(24, 0), net -> net.stateAfter(-1, 73));
         });
         doc.says("Throws `IllegalArgumentException` if hours is out of range", () ->
                 Refused.argumentBeyond(Nets::history, 1, 72, (net, hours) -> net.stateAfter(0, hours)));

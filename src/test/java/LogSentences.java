@@ -215,9 +215,10 @@ final class LogSentences {
         doc.says("Returns that number.", () -> Check.row(Nets.event(events(48), 39), 0, 8, 23, 0, NONE));
         doc.says("Throws `IndexOutOfBoundsException` if there is no such event", () -> {
             Refused.index(ReliefNet::new, net -> net.event(0, 0), net -> net.event(0, 5));
-            Refused.index(() -> events(7), net -> net.event(7, 0), net -> net.event(7, 5), net -> net.event(-1, 0),
-                    net -> net.event(-1, -1), net -> net.event(40, 0));
-            Refused.index(() -> events(48), net -> net.event(40, 0), net -> net.event(47, 0));
+            Refused.indexBeyond(() -> events(7), 0, 6, (net, event) -> net.event(event, 0));
+            Refused.indexBeyond(() -> events(48), 0, 39, (net, event) -> net.event(event, 0));
+            Refused.index(() -> events(48), net -> net.event(47, 0), net -> net.event(40, 5),
+                    net -> net.event(-1, -1));
         });
         doc.says("Throws `IllegalArgumentException` if what is out of range", () ->
                 Refused.argumentBeyond(Nets::history, 0, 4, (net, what) -> net.event(0, what)));
@@ -294,7 +295,7 @@ final class LogSentences {
         doc.says("Throws `IndexOutOfBoundsException` if there is no such event", () -> {
             Refused.index(ReliefNet::new, net -> net.write(0), net -> net.write(-1));
             Refused.index(Nets::eightStations, net -> net.write(0));
-            Refused.index(Nets::history, net -> net.write(40), net -> net.write(-1));
+            Refused.indexBeyond(Nets::history, 0, Nets.history().count(13) - 1, ReliefNet::write);
             Refused.index(() -> {
                 ReliefNet net = events(7);
                 net.write(6);

@@ -245,6 +245,8 @@ final class MessageSentences {
         });
         doc.says("Throws `IndexOutOfBoundsException` if there is no such station", () -> {
             Refused.index(ReliefNet::new, net -> net.send(0, 0, 0), net -> net.send(0, 1, 0));
+            Refused.indexBeyond(Nets::history, 0, 4, (net, from) -> net.send(from, 3, 0));
+            Refused.indexBeyond(Nets::history, 0, 4, (net, to) -> net.send(3, to, 0));
             Refused.index(Nets::full, net -> net.send(8, 0, 0), net -> net.send(0, 8, 0), net -> net.send(8, 8, 0),
                     net -> net.send(-1, -1, -1), net -> net.send(0, -1, 4));
         });
@@ -298,8 +300,8 @@ final class MessageSentences {
         doc.says("Throws `IndexOutOfBoundsException` if there is no such message", () -> {
             Refused.index(ReliefNet::new, net -> net.setPriority(0, 0));
             Refused.index(() -> Nets.row(2, 1, 1), net -> net.setPriority(0, 0));
-            Refused.index(Nets::full, net -> net.setPriority(24, 0), net -> net.setPriority(24, 4),
-                    net -> net.setPriority(-1, 0), net -> net.setPriority(-1, -1));
+            Refused.indexBeyond(Nets::full, 0, 23, (net, message) -> net.setPriority(message, 0));
+            Refused.index(Nets::full, net -> net.setPriority(24, 4), net -> net.setPriority(-1, -1));
         });
         doc.says("Throws `IllegalArgumentException` if priority is out of range", () ->
                 Refused.argumentBeyond(Nets::full, 0, 3, (net, priority) -> net.setPriority(0, priority)));
@@ -350,7 +352,7 @@ final class MessageSentences {
         doc.says("Throws `IndexOutOfBoundsException` if there is no such message", () -> {
             Refused.index(ReliefNet::new, net -> net.takeBack(0));
             Refused.index(() -> Nets.row(2, 1, 1), net -> net.takeBack(0));
-            Refused.index(Nets::full, net -> net.takeBack(24), net -> net.takeBack(-1));
+            Refused.indexBeyond(Nets::full, 0, 23, ReliefNet::takeBack);
         });
     }
 
@@ -443,8 +445,8 @@ final class MessageSentences {
         doc.says("Throws `IndexOutOfBoundsException` if there is no such message", () -> {
             Refused.index(ReliefNet::new, net -> net.message(0, 0));
             Refused.index(Nets::eightStations, net -> net.message(0, 0));
-            Refused.index(Nets::full, net -> net.message(24, 0), net -> net.message(24, 12), net -> net.message(-1, 0),
-                    net -> net.message(-1, -1));
+            Refused.indexBeyond(Nets::full, 0, 23, (net, message) -> net.message(message, 0));
+            Refused.index(Nets::full, net -> net.message(24, 12), net -> net.message(-1, -1));
         });
         doc.says("Throws `IllegalArgumentException` if what is out of range", () ->
                 Refused.argumentBeyond(Nets::history, 0, 11, (net, what) -> net.message(0, what)));
@@ -495,8 +497,9 @@ final class MessageSentences {
         doc.says("Throws `IndexOutOfBoundsException` if there is no such message or station", () -> {
             Refused.index(ReliefNet::new, net -> net.copy(0, 0, 0));
             Refused.index(Nets::eightStations, net -> net.copy(0, 0, 0));
-            Refused.index(Nets::full, net -> net.copy(24, 0, 0), net -> net.copy(0, 8, 0), net -> net.copy(-1, 0, 0),
-                    net -> net.copy(0, -1, 0), net -> net.copy(24, 8, 5), net -> net.copy(0, 8, 5),
+            Refused.indexBeyond(Nets::full, 0, 23, (net, message) -> net.copy(message, 0, 0));
+            Refused.indexBeyond(Nets::full, 0, 7, (net, station) -> net.copy(0, station, 0));
+            Refused.index(Nets::full, net -> net.copy(24, 8, 5), net -> net.copy(0, 8, 5),
                     net -> net.copy(24, 0, -1));
         });
         doc.says("Throws `IllegalArgumentException` if what is out of range", () -> {
@@ -541,8 +544,8 @@ final class MessageSentences {
         doc.says("Throws `IndexOutOfBoundsException` if there is no such message or station", () -> {
             Refused.index(ReliefNet::new, net -> net.path(0, 0, 0));
             Refused.index(Nets::eightStations, net -> net.path(0, 0, 0));
-            Refused.index(Nets::full, net -> net.path(24, 0, 0), net -> net.path(0, 8, 0), net -> net.path(-1, 0, 0),
-                    net -> net.path(0, -1, 0));
+            Refused.indexBeyond(Nets::full, 0, 23, (net, message) -> net.path(message, message < 0 ? 0 : 7, 0));
+            Refused.indexBeyond(row, 0, 7, (net, station) -> net.path(0, station, 0));
         });
         doc.says(", the station has no copy", () -> {
             Refused.index(Nets::full, net -> net.path(0, 1, 0), net -> net.path(0, 7, 0), net -> net.path(23, 0, 0));
@@ -624,7 +627,8 @@ final class MessageSentences {
         });
         doc.says("Throws `IndexOutOfBoundsException` if there is no such station", () -> {
             Refused.index(ReliefNet::new, net -> net.sends(0, 0));
-            Refused.index(Nets::history, net -> net.sends(5, 0), net -> net.sends(-1, 0), net -> net.sends(5, -1));
+            Refused.indexBeyond(Nets::history, 0, 4, (net, station) -> net.sends(station, 0));
+            Refused.index(Nets::history, net -> net.sends(5, -1));
         });
         doc.says(", or index is less than 0", () -> Refused.index(Nets::history, net -> net.sends(0, -1),
                 net -> net.sends(4, Integer.MIN_VALUE)));

@@ -85,8 +85,8 @@ final class Nets {
         net.save(0);
         net.run(6);
         net.send(0, 3, 1);
-        net.write(3);
         load(net, "life 3;x");
+        net.write(3);
         append(net, "seed 7;");
         return net;
     }

@@ -30,14 +30,25 @@ final class Refused {
     /** Each call is refused with just this exception, and the net stays as one on which nobody called. */
     private static void all(Class<? extends RuntimeException> due, Picture.Maker maker, Call... calls)
             throws Exception {
-        String untouched = Picture.of(maker);
+        String untouched = Picture.of(() -> withTexts(maker.make()));
         Check.equal(untouched, Picture.of(() -> {
-            ReliefNet net = maker.make();
+            ReliefNet net = withTexts(maker.make());
             for (Call call : calls) {
                 Check.refused(due, () -> call.on(net));
             }
             return net;
         }));
+    }
+
+    /** A change of an empty text or output could not be seen, so there is something in both if that is possible. */
+    private static ReliefNet withTexts(ReliefNet net) {
+        if (Nets.textLength(net) == 0) {
+            Nets.append(net, "seed 7;");
+        }
+        if (net.output(0) == ReliefNet.NONE && net.count(13) > 0) {
+            net.write(0);
+        }
+        return net;
     }
 
     static void indexBeyond(Picture.Maker maker, int least, int most, Of call) throws Exception {

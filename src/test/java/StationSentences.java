@@ -218,9 +218,12 @@ final class StationSentences {
             Refused.Call[] calls = {net -> net.addStation(-1, 0, 1), net -> net.addStation(24, 0, 1),
                 net -> net.addStation(0, -1, 1), net -> net.addStation(0, 24, 1), net -> net.addStation(0, 0, 0),
                 net -> net.addStation(0, 0, 10), net -> net.addStation(24, 24, 10)};
-            Refused.argument(Nets::history, calls);
             // With eight stations too, since this exception comes first.
             Refused.argument(Nets::full, calls);
+            Refused.argument(Nets::history, calls);
+            Refused.argumentBeyond(Nets::history, 0, 23, (net, from) -> net.addStation(from, 0, 1));
+            Refused.argumentBeyond(Nets::history, 0, 23, (net, to) -> net.addStation(0, to, 1));
+            Refused.argumentBeyond(Nets::history, 1, 9, (net, rate) -> net.addStation(0, 0, rate));
         });
         doc.says("Throws `IllegalStateException` if there are 8 stations", () -> {
             Refused.state(Nets::full, net -> net.addStation(0, 0, 1), net -> net.addStation(23, 23, 9));
@@ -272,6 +275,8 @@ final class StationSentences {
         });
         doc.says("Throws `IndexOutOfBoundsException` if there is no such station", () -> {
             Refused.index(ReliefNet::new, net -> net.addLink(0, 0, 0, 0, 0), net -> net.addLink(0, 1, 0, 0, 0));
+            Refused.indexBeyond(Nets::history, 0, 4, (net, one) -> net.addLink(one, 3, 0, 23, 50));
+            Refused.indexBeyond(Nets::history, 0, 4, (net, other) -> net.addLink(3, other, 0, 23, 50));
             // Before the other exceptions: the same stations, other arguments, sixteen links.
             Refused.index(Nets::full, net -> net.addLink(8, 8, 0, 0, 0), net -> net.addLink(-1, -1, 0, 0, 0),
                     net -> net.addLink(0, 8, 24, 24, 101), net -> net.addLink(8, 0, -1, -1, -1),
@@ -284,6 +289,9 @@ final class StationSentences {
                 net -> net.addLink(0, 1, 0, 24, 0), net -> net.addLink(0, 1, 0, 0, -1),
                 net -> net.addLink(0, 1, 0, 0, 101)};
             Refused.argument(() -> apart(2), calls);
+            Refused.argumentBeyond(Nets::history, 0, 23, (net, from) -> net.addLink(0, 3, from, 0, 0));
+            Refused.argumentBeyond(Nets::history, 0, 23, (net, to) -> net.addLink(0, 3, 0, to, 0));
+            Refused.argumentBeyond(Nets::history, 0, 100, (net, quality) -> net.addLink(0, 3, 0, 0, quality));
             // Before the last exception: a link between both, sixteen links.
             Refused.argument(() -> Nets.row(2, 1, 1), calls);
             Refused.argument(Nets::full, calls);
@@ -326,6 +334,8 @@ final class StationSentences {
             Check.row(Nets.station(net, 1), 0, 23, 1, 1, 0, 0, 0, 0, 0, 0);
         });
         doc.says("- `station`: a station", () -> {
+            Check.equal(0, apart(8).setStation(0, 0, 5));
+            Check.equal(0, apart(8).setStation(7, 0, 5));
             Refused.indexBeyond(() -> apart(8), 0, 7, (net, station) -> net.setStation(station, 0, 0));
             Refused.indexBeyond(() -> apart(1), 0, 0, (net, station) -> net.setStation(station, 0, 0));
         });
@@ -358,6 +368,7 @@ final class StationSentences {
         });
         doc.says("Throws `IndexOutOfBoundsException` if there is no such station", () -> {
             Refused.index(ReliefNet::new, net -> net.setStation(0, 0, 0));
+            Refused.indexBeyond(Nets::history, 0, 4, (net, station) -> net.setStation(station, 0, 0));
             Refused.index(Nets::full, net -> net.setStation(8, 0, 0), net -> net.setStation(-1, 0, 0),
                     net -> net.setStation(8, 3, 0), net -> net.setStation(8, 2, 0), net -> net.setStation(-1, -1, -1));
         });
@@ -419,6 +430,7 @@ final class StationSentences {
         doc.says("Throws `IndexOutOfBoundsException` if there is no such link", () -> {
             Refused.index(ReliefNet::new, net -> net.setLink(0, 0, 0));
             Refused.index(() -> apart(8), net -> net.setLink(0, 0, 0));
+            Refused.indexBeyond(Nets::history, 0, 5, (net, link) -> net.setLink(link, 0, 0));
             Refused.index(Nets::full, net -> net.setLink(16, 0, 0), net -> net.setLink(-1, 0, 0),
                     net -> net.setLink(16, 3, 0), net -> net.setLink(16, 2, 101), net -> net.setLink(-1, -1, -1));
         });
@@ -459,11 +471,12 @@ final class StationSentences {
         });
         doc.says("- `seed`: the new x, 0 to 1000002", () -> Refused.range(Nets::history, 0, 1000002,
                 (net, seed) -> net.setRules(5, 5, seed), net -> net.count(6)));
-        doc.says("Throws `IllegalArgumentException` if an argument is out of range", () ->
-                Refused.argument(Nets::history, net -> net.setRules(0, 1, 0), net -> net.setRules(201, 1, 0),
-                        net -> net.setRules(1, 0, 0), net -> net.setRules(1, 10, 0), net -> net.setRules(1, 1, -1),
-                        net -> net.setRules(1, 1, 1000003), net -> net.setRules(0, 0, -1),
-                        net -> net.setRules(201, 10, 1000003)));
+        doc.says("Throws `IllegalArgumentException` if an argument is out of range", () -> {
+            Refused.argumentBeyond(Nets::history, 1, 200, (net, life) -> net.setRules(life, 1, 0));
+            Refused.argumentBeyond(Nets::history, 1, 9, (net, tries) -> net.setRules(1, tries, 0));
+            Refused.argumentBeyond(Nets::history, 0, 1000002, (net, seed) -> net.setRules(1, 1, seed));
+            Refused.argument(Nets::history, net -> net.setRules(0, 0, -1), net -> net.setRules(201, 10, 1000003));
+        });
     }
 
     private static void station(Sentences doc) {
@@ -540,8 +553,8 @@ final class StationSentences {
         doc.says("Returns that number.", () -> Check.row(Nets.station(Nets.full(), 7), 0, 23, 9, 1, 3, 0, 0, 0, 0, 4));
         doc.says("Throws `IndexOutOfBoundsException` if there is no such station", () -> {
             Refused.index(ReliefNet::new, net -> net.station(0, 0));
-            Refused.index(Nets::history, net -> net.station(5, 0), net -> net.station(-1, 0),
-                    net -> net.station(5, 10), net -> net.station(-1, -1));
+            Refused.indexBeyond(Nets::history, 0, 4, (net, station) -> net.station(station, 0));
+            Refused.index(Nets::history, net -> net.station(5, 10), net -> net.station(-1, -1));
         });
         doc.says("Throws `IllegalArgumentException` if what is out of range", () ->
                 Refused.argumentBeyond(Nets::history, 0, 9, (net, what) -> net.station(0, what)));
@@ -587,8 +600,8 @@ final class StationSentences {
         doc.says("Throws `IndexOutOfBoundsException` if there is no such link", () -> {
             Refused.index(ReliefNet::new, net -> net.link(0, 0));
             Refused.index(() -> apart(8), net -> net.link(0, 0));
-            Refused.index(Nets::history, net -> net.link(6, 0), net -> net.link(-1, 0), net -> net.link(6, 9),
-                    net -> net.link(-1, -1));
+            Refused.indexBeyond(Nets::history, 0, 5, (net, link) -> net.link(link, 0));
+            Refused.index(Nets::history, net -> net.link(6, 9), net -> net.link(-1, -1));
         });
         doc.says("Throws `IllegalArgumentException` if what is out of range", () ->
                 Refused.argumentBeyond(Nets::history, 0, 8, (net, what) -> net.link(0, what)));

@@ -47,7 +47,11 @@ final class TextSentences {
         doc.says("A setup is an ASCII text that is collected in a text buffer of at most 700 bytes.", () -> {
             Check.equal(5, right(" ".repeat(693) + "seed 5;", 1).count(6));
             wrong(" ".repeat(699) + ";", 1, 699);
-            Check.refused(IllegalStateException.class, () -> Nets.append(new ReliefNet(), " ".repeat(701)));
+            for (int length = 697; length <= 700; length++) {
+                ReliefNet full = appended(" ".repeat(length));
+                Check.refused(IllegalStateException.class, () -> full.appendText(0x20202020));
+                Check.equal(length, Nets.textLength(full));
+            }
         });
         doc.says("Its tokens are words (maximal runs of the letters a to z)", TextSentences::words);
         doc.says("numbers (maximal runs of the digits 0 to 9)", TextSentences::numbers);
@@ -332,7 +336,7 @@ final class TextSentences {
                     any -> any.event(0, 0));
         });
         doc.says(", with an empty text buffer", () -> {
-            Refused.argument(ReliefNet::new, net -> net.truncateText(1));
+            Check.refused(IllegalArgumentException.class, () -> new ReliefNet().truncateText(1));
             Check.equal(0, new ReliefNet().truncateText(0));
             Check.equal(4, new ReliefNet().appendText(0));
             Check.equal(0, new ReliefNet().load());
@@ -366,7 +370,7 @@ final class TextSentences {
         doc.says("Throws `IllegalStateException` if the text would be longer than 700 bytes", () -> {
             for (int length = 697; length <= 700; length++) {
                 String text = " ".repeat(length);
-                Refused.state(() -> appended(text), net -> net.appendText(0x20202020), net -> net.appendText(0));
+                Refused.state(() -> written(text), net -> net.appendText(0x20202020), net -> net.appendText(0));
             }
             Check.equal(700, appended(" ".repeat(696)).appendText(0));
             Check.equal(699, appended(" ".repeat(695)).appendText(0));
@@ -375,6 +379,15 @@ final class TextSentences {
 
     private static ReliefNet appended(String text) {
         ReliefNet net = new ReliefNet();
+        Nets.append(net, text);
+        return net;
+    }
+
+    /** A net with a text and an output. */
+    private static ReliefNet written(String text) {
+        ReliefNet net = Nets.row(2, 1, 100);
+        net.send(0, 1, 0);
+        net.write(0);
         Nets.append(net, text);
         return net;
     }
@@ -421,6 +434,7 @@ final class TextSentences {
             Check.equal(0, appended(full).truncateText(0));
             Check.equal(1, appended("12345").truncateText(1));
             Check.equal(5, appended("12345").truncateText(5));
+            Refused.argumentBeyond(() -> appended("12345"), 0, 5, ReliefNet::truncateText);
         });
         doc.says("Returns the new length.", () -> {
             ReliefNet net = appended(" ".repeat(200));
@@ -429,9 +443,14 @@ final class TextSentences {
             }
         });
         doc.says("Throws `IllegalArgumentException` if length is out of range", () -> {
-            for (int length : new int[] {0, 1, 5, 699, 700}) {
+            for (int length : new int[] {1, 5, 699, 700}) {
                 String text = " ".repeat(length);
-                Refused.argumentBeyond(() -> appended(text), 0, length, ReliefNet::truncateText);
+                Refused.argumentBeyond(() -> written(text), 0, length, ReliefNet::truncateText);
+            }
+            for (int length : new int[] {-1, 1, Integer.MIN_VALUE, Integer.MAX_VALUE}) {
+                ReliefNet empty = new ReliefNet();
+                Check.refused(IllegalArgumentException.class, () -> empty.truncateText(length));
+                Check.equal(4, empty.appendText(0));
             }
             // What has been cut is not there any longer.
             Refused.argument(() -> {
@@ -509,6 +528,7 @@ final class TextSentences {
             }
             ReliefNet net = before.make();
             String output = Nets.output(net);
+            Check.equal(false, output.isEmpty());
             Nets.load(net, "#");
             Check.equal(output, Nets.output(net));
             net.restore(0);

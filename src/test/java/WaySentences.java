@@ -266,8 +266,10 @@ final class WaySentences {
         });
         doc.says("Throws `IndexOutOfBoundsException` if there is no such station", () -> {
             Refused.index(ReliefNet::new, net -> net.way(0, 0, 0, 0), net -> net.way(0, 1, 0, 0));
-            Refused.index(Nets::history, net -> net.way(5, 0, 0, 0), net -> net.way(0, 5, 0, 0),
-                    net -> net.way(5, 5, 0, 0), net -> net.way(-1, -1, -1, -1), net -> net.way(0, 5, 100001, 3));
+            Refused.indexBeyond(Nets::history, 0, 4, (net, from) -> net.way(from, 3, 0, 0));
+            Refused.indexBeyond(Nets::history, 0, 4, (net, to) -> net.way(3, to, 0, 0));
+            Refused.index(Nets::history, net -> net.way(5, 5, 0, 0), net -> net.way(-1, -1, -1, -1),
+                    net -> net.way(0, 5, 100001, 3));
         });
         doc.says("Throws `IllegalArgumentException` if both stations are the same", () ->
                 Refused.argument(Nets::history, net -> net.way(0, 0, 0, 0), net -> net.way(4, 4, 0, 2)));
