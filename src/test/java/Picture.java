@@ -39,6 +39,7 @@ final class Picture {
         pages.add(Picture::addCounts);
         pages.add(Picture::addStations);
         pages.add(Picture::addLinks);
+        pages.add(Picture::addWays);
         pages.add(Picture::addMessages);
         for (int first = 0; first < 24; first += MESSAGES_A_PAGE) {
             int from = first;
@@ -73,6 +74,21 @@ final class Picture {
     private static void addLinks(ReliefNet net, StringBuilder all) {
         for (int link = 0; link < net.count(1); link++) {
             all.append("\nlink ").append(java.util.Arrays.toString(Nets.link(net, link)));
+        }
+    }
+
+    /** All ways, every other one from half a day later on. */
+    private static void addWays(ReliefNet net, StringBuilder all) {
+        int stations = net.count(0);
+        int time = net.count(3);
+        for (int pair = 0; pair < stations * stations; pair++) {
+            int from = pair / stations;
+            int to = pair % stations;
+            if (from != to) {
+                int[] way = Nets.way(net, from, to, time + pair % 2 * 12);
+                all.append("\nway ").append(from).append(' ').append(to).append(' ');
+                all.append(java.util.Arrays.toString(way));
+            }
         }
     }
 

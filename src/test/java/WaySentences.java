@@ -297,7 +297,13 @@ final class WaySentences {
             net.run(3);
             Check.equal(5, net.reachable());
             Check.row(new int[] {net.way(0, 2, 3, 0), net.way(2, 0, 3, 0)}, 27, NONE);
-            // With both in the same hour neither direction has a way.
+            // For one hour both directions take no more than a day.
+            ReliefNet both = net(3, link(0, 1, 5, 5), link(1, 2, 3, 5));
+            for (int due : new int[] {5, 5, 5, 5, 6, 5}) {
+                Check.equal(due, both.reachable());
+                both.run(1);
+            }
+            // With both links in the same hour neither direction has a way.
             net.setLink(0, 0, 2);
             net.setLink(0, 1, 2);
             Check.equal(4, net.reachable());
@@ -323,6 +329,12 @@ final class WaySentences {
         doc.says("Returns of all stations the one without which the fewest pairs are reachable", () ->
                 Check.equal(7, net(8, link(7, 5, 0, 23), link(7, 6, 0, 23), link(0, 1, 0, 23)).keyStation()));
         doc.says(", of several the lowest one", () -> {
+            // Pairs that are reachable now: at 4 o'clock 0, 1 and 2 have as many as 3, 4 and 5, before they have less.
+            ReliefNet parts = net(6, link(0, 1, 5, 5), link(1, 2, 3, 5), link(3, 4, 0, 23), link(4, 5, 0, 23));
+            for (int due : new int[] {4, 4, 4, 4, 1, 4}) {
+                Check.equal(due, parts.keyStation());
+                parts.run(1);
+            }
             Check.equal(0, net(8).keyStation());
             Check.equal(0, net(1).keyStation());
             Check.equal(0, net(2, link(0, 1, 0, 23)).keyStation());
