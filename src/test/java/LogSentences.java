@@ -42,16 +42,20 @@ final class LogSentences {
                 }
                 Check.refused(IndexOutOfBoundsException.class, () -> net.event(kept, 0));
             }
-            // Round the ring of 40 more than once.
-            ReliefNet long1 = events(24);
+            // 124 events: each message is born, lost in 9 hours, and stopped.
+            ReliefNet many = Nets.row(2, 1, 0);
+            many.setRules(200, 9, 1);
             for (int message = 0; message < 24; message++) {
-                long1.takeBack(message);
+                many.send(0, 1, 0);
             }
-            Check.row(Nets.event(long1, 0), 0, 0, 8, 0, NONE);
-            ReliefNet traffic = Nets.full();
-            traffic.run(72);
-            Check.equal(40, traffic.count(13));
-            Check.row(new int[] {traffic.event(39, 1), traffic.event(38, 1)}, 1, 5);
+            many.run(72);
+            many.run(18);
+            Check.equal(40, many.count(13));
+            for (int event = 0; event < 40; event++) {
+                int message = 6 + event / 10;
+                int hour = 9 * message + Math.min(event % 10, 8);
+                Check.row(Nets.event(many, event), hour, event % 10 == 9 ? 6 : 2, message, 0, 1);
+            }
         });
         doc.says("An event has a time (the present one when it happens)", () -> {
             ReliefNet net = Nets.row(2, 9, 100);
@@ -175,16 +179,21 @@ final class LogSentences {
     private static void order(Sentences doc) {
         doc.says("For one frame the events come in this order: 4 or 5, if there is one, then 1, 2 or 3, then "
                 + "6.", () -> {
-            // What one frame brings, after a frame before it, with one try or two.
+            // The draws of a frame before, those of this one, TRIES, and the kinds of events that this one brings.
             String[][] due = {
-                {"+", "++", "51"}, {"+", "+-", "53"}, {"+", "-", "2"},
-                {"1", "+-", "536"}, {"1", "-", "26"}, {"1", "++", "51"},
-                {"+-", "++", "41"}, {"+-", "+-", "436"}, {"+-", "-", "26"}};
+                {"", "++", "9", "51"}, {"", "+-", "9", "53"}, {"", "-", "9", "2"},
+                {"", "++", "1", "51"}, {"", "+-", "1", "536"}, {"", "-", "1", "26"},
+                {"+-", "++", "2", "41"}, {"+-", "+-", "2", "436"}, {"+-", "-", "2", "26"}, {"+-", "+-", "9", "43"}};
             for (String[] one : due) {
-                boolean again = one[0].equals("+-");
-                ReliefNet net = Nets.drawn(2, one[0].equals("+") ? 9 : again ? 2 : 1, again ? "+-" + one[1] : one[1]);
-                net.run(again ? 2 : 1);
-                Check.equal(one[2], kindsFrom(net, again ? 3 : 1));
+                ReliefNet net = Nets.drawn(2, Integer.parseInt(one[2]), one[0] + one[1]);
+                // The message is born, and the frame before brings a 5 and a 3.
+                int first = 1;
+                if (!one[0].isEmpty()) {
+                    net.run(1);
+                    first = 3;
+                }
+                net.run(1);
+                Check.equal(one[3], kindsFrom(net, first));
             }
             // At a station on the way there is neither 4 nor 5.
             ReliefNet between = Nets.drawn(3, 1, "+-");
