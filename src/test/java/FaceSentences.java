@@ -145,8 +145,8 @@ final class FaceSentences {
                     net -> net.setLink(6, 0, 0), net -> net.station(5, 0), net -> net.link(6, 0),
                     net -> net.way(0, 5, 0, 0), net -> net.send(0, 5, 0), net -> net.setPriority(12, 0),
                     net -> net.takeBack(12), net -> net.message(12, 0), net -> net.copy(12, 0, 0),
-                    net -> net.path(0, 0, 8), net -> net.sends(5, 0), net -> net.stateAfter(12, 1),
-                    net -> net.event(40, 0), net -> net.write(40));
+                    net -> net.path(12, 0, 0), net -> net.path(0, 0, 8), net -> net.sends(5, 0),
+                    net -> net.stateAfter(12, 1), net -> net.event(40, 0), net -> net.write(40));
         });
         doc.says("If several exceptions apply, the one that comes first in the method's list of exceptions is "
                 + "thrown.", () -> {
@@ -168,7 +168,9 @@ final class FaceSentences {
 
     /** Three bytes more would fit. */
     private static ReliefNet fullText() {
-        ReliefNet net = new ReliefNet();
+        ReliefNet net = Nets.row(2, 1, 100);
+        net.send(0, 1, 0);
+        net.write(0);
         Nets.append(net, "seed 7;" + " ".repeat(690));
         return net;
     }

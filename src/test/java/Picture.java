@@ -24,6 +24,7 @@ final class Picture {
         List<Page> pages = savedPages();
         pages.add(Picture::addOutput);
         pages.add(Picture::addText);
+        pages.add(Picture::addLongerText);
         pages.add((net, all) -> addSlot(net, 0, all));
         pages.add((net, all) -> addSlot(net, 1, all));
         return print(maker, pages);
@@ -134,6 +135,16 @@ final class Picture {
         all.append("\ntext ").append(Nets.textLength(net)).append(" loads ").append(net.load());
         all.append(" error ").append(net.errorCode()).append(' ').append(net.errorPosition());
         addCounts(net, all);
+    }
+
+    /** Looks at the text's length without a call that truncateText might refuse. */
+    private static void addLongerText(ReliefNet net, StringBuilder all) {
+        all.append("\nlonger text ");
+        try {
+            all.append(net.appendText(0x20202020));
+        } catch (IllegalStateException full) {
+            all.append("does not fit");
+        }
     }
 
     private static void addSlot(ReliefNet net, int slot, StringBuilder all) {

@@ -40,12 +40,20 @@ final class Refused {
         }));
     }
 
-    /** A change of an empty text or output could not be seen, so there is something in both if that is possible. */
+    /**
+     * A change of an empty text or output could not be seen, so a net without an output gets both, if that is
+     * possible. Nothing is refused here, since that might change what has to be compared.
+     */
     private static ReliefNet withTexts(ReliefNet net) {
-        if (Nets.textLength(net) == 0) {
+        if (net.output(0) != ReliefNet.NONE) {
+            return net;
+        }
+        int length = net.appendText(0x20202020) - 4;
+        net.truncateText(length);
+        if (length == 0) {
             Nets.append(net, "seed 7;");
         }
-        if (net.output(0) == ReliefNet.NONE && net.count(13) > 0) {
+        if (net.count(13) > 0) {
             net.write(0);
         }
         return net;
