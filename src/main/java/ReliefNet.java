@@ -652,13 +652,13 @@ public final class ReliefNet {
         }
 
         private static int heardBy(int stations, long hearing) {
-            int set = 0;
+            long sets = 0;
             for (int station = 0; station < MOST_STATIONS; station++) {
                 if ((stations >> station & 1) == 1) {
-                    set |= setOf(hearing, station);
+                    sets |= hearing >>> station * SET_BITS;
                 }
             }
-            return set;
+            return (int) sets & SET_MASK;
         }
 
         private long heardAt(int time) {

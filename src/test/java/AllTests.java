@@ -1,4 +1,6 @@
-/** Runs every test of the project; its arguments are the paths of the class's source and of the document. */
+import java.nio.file.Path;
+
+/** Runs every test of the project, from its folder; the arguments are the paths of the class and of the document. */
 public final class AllTests {
     private AllTests() {
     }
@@ -24,6 +26,8 @@ public final class AllTests {
         LogTest.run(check);
         SaveTest.run(check);
         FaceTest.run(check, arguments[0]);
+        ReadmeTest.run(check, Path.of("README.md"), Path.of(arguments[1]),
+                Path.of("src/test/java/ReadmeExample.java"));
         ReferenceTest.run(check);
         System.out.println(check.passed() + " passed, " + check.failed() + " failed");
         System.exit(check.failed() == 0 ? 0 : 1);

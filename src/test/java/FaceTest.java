@@ -1,7 +1,9 @@
+import java.lang.reflect.Field;
 import java.lang.reflect.Method;
 import java.lang.reflect.Modifier;
 import java.nio.file.Files;
 import java.nio.file.Path;
+import java.util.ArrayList;
 import java.util.HashSet;
 import java.util.List;
 import java.util.Set;
@@ -13,6 +15,7 @@ final class FaceTest {
 
     static void run(Check check, String source) {
         check.test("the classes inside are static and not public", FaceTest::inside);
+        check.test("fields, parameters and static state keep to the language", FaceTest::sizes);
         check.test("the source keeps to the language", () -> source(source));
     }
 
@@ -31,6 +34,29 @@ final class FaceTest {
             for (Method method : one.getDeclaredMethods()) {
                 Check.equal(one.getName() + "." + method.getName() + " false",
                         one.getName() + "." + method.getName() + " " + names.contains(method.getName()));
+            }
+        }
+    }
+
+    /** Few fields and parameters; what is static never changes; nothing inside is an exception. */
+    private static void sizes() {
+        List<Class<?>> all = new ArrayList<>(List.of(ReliefNet.class.getDeclaredClasses()));
+        all.add(ReliefNet.class);
+        for (Class<?> one : all) {
+            Check.equal(false, Throwable.class.isAssignableFrom(one));
+            int fields = 0;
+            for (Field field : one.getDeclaredFields()) {
+                boolean constant = Modifier.isStatic(field.getModifiers());
+                fields += constant ? 0 : 1;
+                if (constant) {
+                    String name = one.getName() + "." + field.getName();
+                    Check.equal(name + " true", name + " " + Modifier.isFinal(field.getModifiers()));
+                    Check.equal(true, Set.of(int.class, long.class).contains(field.getType()));
+                }
+            }
+            Check.equal(one.getName() + " true", one.getName() + " " + (fields <= 20));
+            for (Method method : one.getDeclaredMethods()) {
+                Check.equal(true, method.getParameterCount() <= 7);
             }
         }
     }
